@@ -105,6 +105,9 @@ public final class DirectionTest {
         // A closing one closes the last open one of its pair.
         levels(x, 0, "0 0 1 1 1 1 0", L, IN, R, IN, R, OUT, L);
         levels(x, 0, "0 0 0 1 0 0", L, IN, IN2, R, OUT, L);
+        // What a text that was looked at before left open is nothing here.
+        levels(x, 0, "0 0", L, IN);
+        levels(x, 0, "0 0 1 0 1 0", L, IN, R, OUT, R, OUT);
         // Numbers being right, between them and ahead.
         levels(x, 0, "1 2 1 2 1 0", R, NUM, IN, NUM, OUT, L);
         // Not neutral: no partners.

@@ -6,8 +6,14 @@ import java.util.List;
  * after each call that throws all that can be seen of the texts and the out.
  */
 public final class ModelTest {
-    private static final int RUNS = 1200;
+    private static final int RUNS = 4000;
     private static final int CALLS = 512;
+
+    // What a run may be sharper at: all joining classes, SEAMLESS letters, partners, versions.
+    private static final int CLASSES = 0;
+    private static final int SEAMLESS = 1;
+    private static final int PARTNERS = 2;
+    private static final int VERSIONS = 3;
 
     private static int wrong;
     private static long seed;
@@ -47,7 +53,7 @@ public final class ModelTest {
             pool[i] = any(96);
         }
         telling = 5 + any(40);
-        sharp = any(6);
+        sharp = any(7);
         LetterTables x = new LetterTables();
         Model m = new Model();
         List<String> made = new ArrayList<>();
@@ -154,6 +160,12 @@ public final class ModelTest {
     // ---- calls
 
     private static Step tables() {
+        if (sharp == VERSIONS && once(3)) {
+            return versionStep();
+        }
+        if (sharp == PARTNERS && once(3)) {
+            return partnersStep();
+        }
         switch (any(12)) {
             case 0:
             case 1:
@@ -182,9 +194,10 @@ public final class ModelTest {
 
     private static Step letterStep() {
         int l = letter();
-        int joins = once(2) ? 0 : within(0, sharp == 0 ? 9 : 3);
-        int direction = once(3) ? LetterTables.NEUTRAL : once(2) ? any(3) : within(0, 10);
-        int kind = sharp == 1 && once(2) ? LetterTables.SEAMLESS : within(0, 6);
+        int joins = once(2) ? 0 : within(0, sharp == CLASSES ? 9 : 3);
+        boolean isNeutral = once(sharp == PARTNERS ? 2 : 3);
+        int direction = isNeutral ? LetterTables.NEUTRAL : once(2) ? any(3) : within(0, 10);
+        int kind = sharp == SEAMLESS && once(2) ? LetterTables.SEAMLESS : within(0, 6);
         int like = once(2) ? l : letter();
         return quiet("letter(" + l + ", " + joins + ", " + direction + ", " + kind + ", " + like + ")",
                 x -> x.letter(l, joins, direction, kind, like), m -> m.letter(l, joins, direction, kind, like));

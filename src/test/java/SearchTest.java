@@ -258,6 +258,8 @@ public final class SearchTest {
             x.letter(kind, 0, LetterTables.NEUTRAL, kind, kind);
         }
         x.capital(50, 51, 52);
+        x.capital(0, 60, N);
+        x.capital(95, 61, 62);
         x.capital(53, 53, N);
         x.capital(54, 54, 55);
         Due.feed(x, pattern);
@@ -290,6 +292,7 @@ public final class SearchTest {
         match("C", N, 0, 50);
         match("C", 1, 0, 51);
         match("C", 1, 0, 52);
+        match("CCC", 3, 0, 60, 61, 62);
         match("C", N, 0, 53);
         match("C", N, 0, 54);
         match("C", 1, 0, 55);

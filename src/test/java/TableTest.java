@@ -265,6 +265,9 @@ public final class TableTest {
         Due.is("9: the third", LetterTables.ONE, () -> x.classOf(0, 25));
         Due.is("9: the fourth", LetterTables.MANY, () -> x.classOf(0, 20));
         Due.is("9: the other language", LetterTables.ONE, () -> x.classOf(1, 20));
+        LetterTables y = new LetterTables();
+        Due.is("9: modulo 1 as the other number", 1, () -> y.plural(0, LetterTables.ONE, 1, 0, 0, 1, 0, 0));
+        Due.is("9: never fits", N, () -> y.classOf(0, 20));
     }
 
     private static void promise10() {
@@ -360,6 +363,34 @@ public final class TableTest {
         Due.thrown("13: 4", Due.INDEX, Due.quiet(() -> x.use(4)));
         x.use(3);
         Due.same("13: the last one", seen(new LetterTables()), seen(x));
+        dictionaries();
+    }
+
+    /** As many words in each version, but other ones. */
+    private static void dictionaries() {
+        LetterTables x = new LetterTables();
+        for (int letter = 0; letter < 96; letter++) {
+            x.letter(letter, 0, 3, LetterTables.SEAMLESS, letter);
+        }
+        x.save();
+        Due.write(x, 0, 1, 2);
+        Due.write(x, 1, 3, 4, 5);
+        Due.write(x, 2, 1, 2, 3, 4, 5);
+        x.addWord(0);
+        x.addWord(0);
+        Due.is("12: version 1", 1, x::save);
+        Due.is("13: by version 1", 1 << 2 | 1 << 3 | 1 << 4, () -> x.breaks(2, 1));
+        x.use(0);
+        x.addWord(1);
+        x.addWord(1);
+        Due.is("12: version 2", 2, x::save);
+        Due.is("13: by version 2", 1 << 1 | 1 << 2, () -> x.breaks(2, 1));
+        x.use(1);
+        Due.is("13: version 1 again", 1 << 2 | 1 << 3 | 1 << 4, () -> x.breaks(2, 1));
+        Due.is("13: it goes on from there", 3, () -> x.addWord(1));
+        Due.is("13: with both", 1 << 2, () -> x.breaks(2, 1));
+        x.use(2);
+        Due.is("13: version 2 again", 1 << 1 | 1 << 2, () -> x.breaks(2, 1));
     }
 
     /** What the tables that promise12and13 tells make of some texts. */
@@ -372,7 +403,7 @@ public final class TableTest {
                 x.form(2, form, 3);
                 all.append(Due.read(x, 3)).append("; ");
             }
-            all.append(Due.levels(x, 2, N)).append("; ").append(x.breaks(2, 1)).append("; ");
+            all.append(Due.levels(x, 2, 0)).append("; ").append(x.breaks(2, 1)).append("; ");
             all.append(Due.key(x, 0, 2)).append("; ").append(Due.key(x, 1, 2)).append("; ");
             x.transliterate(2, 3, false);
             all.append(Due.read(x, 3)).append("; ").append(x.classOf(0, 13)).append("\n");
@@ -460,7 +491,10 @@ public final class TableTest {
             x.split(letter, letter - 1, letter - 1);
         }
         Due.write(x, 0, 95);
-        Due.thrown("17: it grows far beyond", Due.STATE, () -> x.form(0, 0, 1));
+        for (int i = 0; i < 4; i++) {
+            int form = i;
+            Due.thrown("17: it grows far beyond, form " + i, Due.STATE, () -> x.form(0, form, 1));
+        }
         Due.write(x, 0, 64);
         Due.is("17: 32 letters", 32, () -> x.form(0, 0, 0));
         Due.is("17: into itself", 32, () -> x.at(0, N));
