@@ -10,6 +10,7 @@ final class Due {
 
     private static int wrong;
     private static int asked;
+    private static String about = "";
 
     private Due() {
     }
@@ -34,12 +35,32 @@ final class Due {
         same(what, "throws." + want.getSimpleName(), got);
     }
 
+    /** Whatever it answers, nothing is thrown. */
+    static void goes(String what, Call call) {
+        String got = "an answer";
+        try {
+            call.go();
+        } catch (RuntimeException e) {
+            got = "throws." + e.getClass().getSimpleName();
+        }
+        same(what, "an answer", got);
+    }
+
     static void same(String what, String want, String got) {
         asked++;
         if (!want.equals(got)) {
             wrong++;
-            System.out.println(what + " answered " + got + ", due is " + want);
+            System.out.println(about + what + " answered " + got + ", due is " + want);
         }
+    }
+
+    /** What the answers that are asked from now on are about; it stands ahead of each wrong one. */
+    static void about(String what) {
+        about = what;
+    }
+
+    static int asked() {
+        return asked;
     }
 
     static void end() {
@@ -71,16 +92,24 @@ final class Due {
         return text.toString();
     }
 
+    /** Eight bytes at once: an object is used for 512 calls alone. */
     static void feed(LetterTables x, String text) {
-        for (int i = 0; i < text.length(); i++) {
-            x.feed(text.charAt(i), 1);
+        for (int i = 0; i < text.length(); i += 8) {
+            int count = Math.min(8, text.length() - i);
+            long bytes = 0;
+            for (int k = count - 1; k >= 0; k--) {
+                bytes = bytes << 8 | text.charAt(i + k);
+            }
+            x.feed(bytes, count);
         }
     }
 
     static String out(LetterTables x, int size) {
         StringBuilder text = new StringBuilder();
+        long word = 0;
         for (int i = 0; i < size; i++) {
-            text.append((char) (x.word(i / 8) >>> 8 * (i % 8) & 255));
+            word = i % 8 == 0 ? x.word(i / 8) : word >>> 8;
+            text.append((char) (word & 255));
         }
         return text.toString();
     }

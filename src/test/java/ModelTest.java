@@ -6,7 +6,8 @@ import java.util.List;
  * after each call that throws all that can be seen of the texts and the out.
  */
 public final class ModelTest {
-    private static final int RUNS = 4000;
+    private static final int RUNS = 8000;
+    /** How long an object is used, what is asked to see all of it counted too. */
     private static final int CALLS = 512;
 
     // What a run may be sharper at: all joining classes, SEAMLESS letters, partners, versions.
@@ -57,24 +58,31 @@ public final class ModelTest {
         LetterTables x = new LetterTables();
         Model m = new Model();
         List<String> made = new ArrayList<>();
-        int beginning = 20 + any(120);
-        for (int i = 0; i < CALLS && wrong < 5; i++) {
+        int beginning = 20 + any(60);
+        int calls = 0;
+        for (int i = 0; wrong < 5; i++) {
             Step step = i < beginning ? tables() : i % 3 == 0 ? texts() : once(telling) ? tables() : asked();
-            made.add(step.name);
-            String got = answer(step.program, x);
-            String due = answer(step.model, m);
-            boolean isSame = got.equals(due);
-            if (isSame && (got.startsWith("throws") || once(25))) {
-                String mine = seen(x::at, x::word);
-                String its = seen(m::at, m::word);
-                isSame = mine.equals(its);
-                got += " and left " + mine;
-                due += " and left " + its;
+            // A step leaves at most 40 letters more to be seen in the end.
+            boolean isLast = calls + step.calls + cost(m) + 40 > CALLS;
+            if (!isLast) {
+                calls += step.calls;
+                made.add(step.name);
             }
-            if (!isSame) {
+            String got = isLast ? "the end" : answer(step.program, x);
+            String due = isLast ? "the end" : answer(step.model, m);
+            boolean isSeen = isLast || calls + 2 * cost(m) < CALLS && (got.startsWith("throws") ? once(3) : once(60));
+            if (isSeen && got.equals(due)) {
+                calls += cost(m);
+                got += " and left " + seen(x::at, x::word);
+                due += " and left " + seen(m::at, m::word);
+            }
+            if (!got.equals(due)) {
                 wrong++;
-                System.out.println("run " + run + ", call " + i + ": " + step.name + " answered " + got + ", due is "
-                        + due + "\n  after " + made);
+                System.out.println("run " + run + ", call " + calls + ": " + made.get(made.size() - 1) + " answered "
+                        + got + ", due is " + due + "\n  after " + made);
+                return;
+            }
+            if (isLast) {
                 return;
             }
         }
@@ -92,7 +100,11 @@ public final class ModelTest {
         long ask(T object);
     }
 
-    private record Step(String name, Ask<LetterTables> program, Ask<Model> model) {
+    /** A step by so many calls at the most. */
+    private record Step(String name, Ask<LetterTables> program, Ask<Model> model, int calls) {
+        Step(String name, Ask<LetterTables> program, Ask<Model> model) {
+            this(name, program, model, 1);
+        }
     }
 
     private static <T> String answer(Ask<T> ask, T object) {
@@ -101,6 +113,15 @@ public final class ModelTest {
         } catch (RuntimeException e) {
             return "throws." + e.getClass().getSimpleName();
         }
+    }
+
+    /** How many calls 'seen' takes. */
+    private static int cost(Model m) {
+        int cost = 6 + 26;
+        for (int slot = 0; slot < 6; slot++) {
+            cost += m.at(slot, -1);
+        }
+        return cost;
     }
 
     private static String seen(At at, Word word) {
@@ -461,16 +482,17 @@ public final class ModelTest {
         int kind = any(5);
         String fed = once(12) ? bytes() : kind < 2 ? patternText() : kind < 4 ? messageText(0) : bytes();
         String spoiled = once(8) && !fed.isEmpty() ? spoil(fed) : fed;
+        int calls = (spoiled.length() + 7) / 8 + 1;
         Feed<LetterTables> into = (x, bytes, count) -> x.feed(bytes, count);
         Feed<Model> also = (m, bytes, count) -> m.feed(bytes, count);
         if (kind < 2) {
             return new Step("'" + spoiled + "' pattern()", x -> fed(x, into, spoiled) * 100L + x.pattern(),
-                    m -> fed(m, also, spoiled) * 100L + m.pattern());
+                    m -> fed(m, also, spoiled) * 100L + m.pattern(), calls);
         }
         if (kind < 4) {
             return new Step("'" + spoiled + "' message(" + language + ", " + n[0] + ", " + n[1] + ", " + n[2] + ", "
                     + n[3] + ")", x -> fed(x, into, spoiled) * 1000L + x.message(language, n[0], n[1], n[2], n[3]),
-                    m -> fed(m, also, spoiled) * 1000L + m.message(language, n[0], n[1], n[2], n[3]));
+                    m -> fed(m, also, spoiled) * 1000L + m.message(language, n[0], n[1], n[2], n[3]), calls);
         }
         if (once(5)) {
             long bytes = seed;
@@ -478,7 +500,7 @@ public final class ModelTest {
             return new Step("feed(" + bytes + ", " + count + ")", x -> x.feed(bytes, count), m -> m.feed(bytes, count));
         }
         return new Step("'" + spoiled + "' decode(" + slot + ")", x -> fed(x, into, spoiled) * 100L + x.decode(slot),
-                m -> fed(m, also, spoiled) * 100L + m.decode(slot));
+                m -> fed(m, also, spoiled) * 100L + m.decode(slot), calls);
     }
 
     private interface Feed<T> {
@@ -487,9 +509,14 @@ public final class ModelTest {
 
     private static <T> int fed(T object, Feed<T> feed, String text) {
         int size = 0;
-        for (int i = 0; i < text.length(); i++) {
+        for (int i = 0; i < text.length(); i += 8) {
+            int count = Math.min(8, text.length() - i);
+            long bytes = 0;
+            for (int k = count - 1; k >= 0; k--) {
+                bytes = bytes << 8 | text.charAt(i + k);
+            }
             try {
-                size = feed.feed(object, text.charAt(i), 1);
+                size = feed.feed(object, bytes, count);
             } catch (IllegalStateException e) {
                 return size;
             }

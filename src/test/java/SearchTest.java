@@ -7,6 +7,8 @@ public final class SearchTest {
         keysWrong();
         compares();
         finds();
+        findsOn();
+        findsFar();
         findsWrong();
         patterns();
         patternsWrong();
@@ -174,6 +176,10 @@ public final class SearchTest {
         find(x, 3, 0, row(2), 4, 20, 20);
         find(x, 204, 1, row(2), 4, 20, 4, 20);
         find(x, 204, 0, row(7), 8, 20, 7, 20);
+    }
+
+    private static void findsOn() {
+        LetterTables x = foldable();
         // What splits is split behind the capitals: 40 stays 1.
         find(x, N, 0, row(1), 40);
         find(x, 1, 0, row(40), 40);
@@ -187,6 +193,10 @@ public final class SearchTest {
         find(x, 2, 0, row(7), 21, 7, 21);
         find(x, 102, 1, row(7), 21, 7, 21);
         find(x, 205, 0, row(7, 8), 7, 9, 7, 21, 8, 21);
+    }
+
+    private static void findsFar() {
+        LetterTables x = foldable();
         int[] full = new int[40];
         full[39] = 7;
         find(x, 3940, 0, row(7), full);

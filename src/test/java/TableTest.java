@@ -43,28 +43,7 @@ public final class TableTest {
         Due.thrown("1: no version", Due.INDEX, Due.quiet(() -> x.use(0)));
         Due.is("1: no class", N, () -> x.classOf(1, 0));
         for (int from = 0; from < 96; from += 32) {
-            x.clear(0);
-            for (int i = 0; i < 32; i++) {
-                x.put(0, from + i);
-            }
-            String all = Due.read(x, 0);
-            for (int form = 0; form < 4; form++) {
-                x.form(0, form, 1);
-                Due.same("1: form " + form, all, Due.read(x, 1));
-            }
-            for (int i = 0; i < 32; i++) {
-                int place = i;
-                Due.is("1: level", 0, () -> x.level(0, place, N));
-            }
-            Due.is("1: clusters", 0xFFFFFFFEL, () -> x.breaks(0, 0));
-            Due.is("1: words", 0xFFFFFFFEL, () -> x.breaks(0, 1));
-            Due.is("1: lines", 0, () -> x.breaks(0, 2));
-            Due.same("1: key", "0 0", Due.key(x, 0, 0));
-            Due.same("1: key", "0 0", Due.key(x, 1, 0));
-            x.transliterate(0, 1, false);
-            Due.same("1: transliterated", all, Due.read(x, 1));
-            x.transliterate(0, 1, true);
-            Due.same("1: transliterated back", all, Due.read(x, 1));
+            promise1letters(from);
         }
         Due.write(x, 0, 5);
         Due.write(x, 1, 6);
@@ -76,6 +55,31 @@ public final class TableTest {
         Due.is("1: first version", 0, x::save);
         Due.is("1: first bytes", 1, () -> x.feed(0, 1));
         Due.is("1: partners", 0, Due.quiet(() -> x.partners(0, 1)));
+    }
+
+    private static void promise1letters(int from) {
+        LetterTables x = new LetterTables();
+        for (int i = 0; i < 32; i++) {
+            x.put(0, from + i);
+        }
+        String all = Due.read(x, 0);
+        for (int form = 0; form < 4; form++) {
+            x.form(0, form, 1);
+            Due.same("1: form " + form, all, Due.read(x, 1));
+        }
+        for (int i = 0; i < 32; i++) {
+            int place = i;
+            Due.is("1: level", 0, () -> x.level(0, place, N));
+        }
+        Due.is("1: clusters", 0xFFFFFFFEL, () -> x.breaks(0, 0));
+        Due.is("1: words", 0xFFFFFFFEL, () -> x.breaks(0, 1));
+        Due.is("1: lines", 0, () -> x.breaks(0, 2));
+        Due.same("1: key", "0 0", Due.key(x, 0, 0));
+        Due.same("1: key", "0 0", Due.key(x, 1, 0));
+        x.transliterate(0, 1, false);
+        Due.same("1: transliterated", all, Due.read(x, 1));
+        x.transliterate(0, 1, true);
+        Due.same("1: transliterated back", all, Due.read(x, 1));
     }
 
     private static void promise2() {
@@ -323,6 +327,24 @@ public final class TableTest {
         Due.thrown("13: none", Due.INDEX, Due.quiet(() -> x.use(0)));
         Due.thrown("13: -1", Due.INDEX, Due.quiet(() -> x.use(-1)));
         Due.is("12: the empty one", 0, x::save);
+        tellAll(x);
+        Due.is("12: the full one", 1, x::save);
+        x.feed('x', 1);
+        x.use(0);
+        Due.is("13: the tape stays", 2, () -> x.feed('y', 1));
+        Due.same("13: texts stay", "9", Due.read(x, 1));
+        Due.same("13: the empty one", seen(new LetterTables()), seen(x));
+        Due.is("13: nothing told", 1, () -> x.contract(1, 3, 3, 1, 1, 1));
+        Due.is("13: nothing told", 1, () -> x.plural(0, 0, 1, 0, 0, 0, 0, 0));
+        Due.write(x, 0, 7, 8);
+        Due.is("13: nothing told", 1, () -> x.addWord(0));
+        Due.is("13: nothing told", 1, () -> x.addRule(0, 5, 0, 5, 5));
+        Due.is("13: no partners", 0, Due.quiet(() -> x.partners(OUT2, IN2)));
+        dictionaries();
+        versions();
+    }
+
+    private static void tellAll(LetterTables x) {
         Directed.tell(x);
         x.letter(1, 3, LetterTables.RIGHT, LetterTables.MARK, 2);
         x.split(5, 1, 2);
@@ -337,33 +359,48 @@ public final class TableTest {
         x.addWord(0);
         Due.write(x, 1, 9);
         x.addRule(0, 5, 1, 5, 0);
-        String full = seen(x);
-        Due.is("12: the full one", 1, x::save);
-        x.feed('x', 1);
+    }
+
+    /** One with an empty version 0 and a full version 1, by turns, and something told behind each. */
+    private static LetterTables turned() {
+        LetterTables x = new LetterTables();
+        x.save();
+        tellAll(x);
+        x.save();
         x.use(0);
-        Due.is("13: the tape stays", 2, () -> x.feed('y', 1));
-        Due.same("13: texts stay", "9", Due.read(x, 1));
-        Due.same("13: the empty one", seen(new LetterTables()), seen(x));
-        Due.is("13: nothing told", 1, () -> x.contract(1, 3, 3, 1, 1, 1));
-        Due.is("13: nothing told", 1, () -> x.plural(0, 0, 1, 0, 0, 0, 0, 0));
-        Due.write(x, 0, 7, 8);
-        Due.is("13: nothing told", 1, () -> x.addWord(0));
-        Due.is("13: nothing told", 1, () -> x.addRule(0, 5, 0, 5, 5));
-        Due.is("13: no partners", 0, Due.quiet(() -> x.partners(OUT2, IN2)));
+        x.contract(1, 3, 3, 1, 1, 1);
+        x.plural(0, 0, 1, 0, 0, 0, 0, 0);
+        x.addWord(1);
+        x.partners(OUT2, IN2);
         x.use(1);
-        Due.same("13: the full one", full, seen(x));
+        x.split(5, 2, 1);
+        x.use(1);
+        return x;
+    }
+
+    private static void versions() {
+        LetterTables told = new LetterTables();
+        tellAll(told);
+        String full = seen(told);
+        Due.same("13: the full one", full, seen(turned()));
+        LetterTables x = turned();
         x.use(1);
         Due.same("13: still the full one", full, seen(x));
-        x.use(0);
-        Due.same("13: what is told later does not come into it", seen(new LetterTables()), seen(x));
-        Due.thrown("13: 2", Due.INDEX, Due.quiet(() -> x.use(2)));
-        Due.is("12: third", 2, x::save);
-        Due.is("12: fourth", 3, x::save);
-        Due.thrown("12: a fifth", Due.STATE, x::save);
-        Due.thrown("13: 4", Due.INDEX, Due.quiet(() -> x.use(4)));
-        x.use(3);
-        Due.same("13: the last one", seen(new LetterTables()), seen(x));
-        dictionaries();
+        LetterTables y = turned();
+        y.use(0);
+        Due.same("13: what is told later does not come into it", seen(new LetterTables()), seen(y));
+        Due.thrown("13: 2", Due.INDEX, Due.quiet(() -> y.use(2)));
+        Due.is("12: third", 2, y::save);
+        Due.is("12: fourth", 3, y::save);
+        Due.thrown("12: a fifth", Due.STATE, y::save);
+        Due.thrown("13: 4", Due.INDEX, Due.quiet(() -> y.use(4)));
+        LetterTables z = turned();
+        z.use(0);
+        z.save();
+        z.save();
+        z.use(1);
+        z.use(3);
+        Due.same("13: the last one", seen(new LetterTables()), seen(z));
     }
 
     /** As many words in each version, but other ones. */
