@@ -1,9 +1,7 @@
-import java.util.Arrays;
-
 /** The sentences of 'Breaks', and what the promises 23 and 24 add to them. */
 final class BreakEdges {
-    /** Letters of the kinds OTHER, LETTER, DIGIT, BLANK, MARK and JOINER, and three that are SEAMLESS. */
-    private static final int O = 0, A = 1, D = 2, B = 3, M = 6, J = 7, S = 10, T = 11, U = 12;
+    private static final int O = Kinds.O, A = Kinds.A, D = Kinds.D, B = Kinds.B, M = Kinds.M, J = Kinds.J, S = Kinds.S,
+            T = Kinds.T, U = Kinds.U;
 
     private BreakEdges() {
     }
@@ -19,34 +17,8 @@ final class BreakEdges {
         sense();
     }
 
-    private static LetterTables table() {
-        LetterTables x = new LetterTables();
-        int[][] all = {{A, LetterTables.LETTER}, {D, LetterTables.DIGIT}, {B, LetterTables.BLANK},
-            {S, LetterTables.SEAMLESS}, {T, LetterTables.SEAMLESS}, {U, LetterTables.SEAMLESS}, {M, LetterTables.MARK},
-            {J, LetterTables.JOINER}};
-        for (int[] one : all) {
-            x.letter(one[0], 0, LetterTables.NEUTRAL, one[1], one[0]);
-        }
-        return x;
-    }
-
-    private static long bits(int... places) {
-        long all = 0;
-        for (int place : places) {
-            all |= 1L << place;
-        }
-        return all;
-    }
-
-    private static int[] of(int size, int letter, int... last) {
-        int[] all = new int[size];
-        Arrays.fill(all, letter);
-        System.arraycopy(last, 0, all, size - last.length, last.length);
-        return all;
-    }
-
     private static void breaks(int what, long want, int... text) {
-        breaks(table(), what, want, text);
+        breaks(Kinds.table(), what, want, text);
     }
 
     private static void breaks(LetterTables x, int what, long want, int... text) {
@@ -66,31 +38,31 @@ final class BreakEdges {
             breaks(0, 0, M);
             breaks(0, 0, J);
             for (int letter : new int[] {O, A, D, B, S}) {
-                breaks(0, bits(1), A, letter);
+                breaks(0, Kinds.bits(1), A, letter);
                 breaks(0, 0, J, letter);
                 breaks(0, 0, letter, M);
             }
-            breaks(0, bits(1), A, J);
-            breaks(0, bits(1), A, J, A);
-            breaks(0, bits(1), A, J, M, M);
-            breaks(0, bits(1, 3), A, J, M, A);
-            breaks(0, bits(1), A, J, J, J);
-            breaks(0, bits(2), A, M, J, A);
-            breaks(0, bits(1), M, A);
-            breaks(0, 0, of(40, M));
-            breaks(0, 0, of(40, J));
-            breaks(0, 0xFFFFFFFFFEL, of(40, A));
-            breaks(0, bits(39), of(40, M, A));
+            breaks(0, Kinds.bits(1), A, J);
+            breaks(0, Kinds.bits(1), A, J, A);
+            breaks(0, Kinds.bits(1), A, J, M, M);
+            breaks(0, Kinds.bits(1, 3), A, J, M, A);
+            breaks(0, Kinds.bits(1), A, J, J, J);
+            breaks(0, Kinds.bits(2), A, M, J, A);
+            breaks(0, Kinds.bits(1), M, A);
+            breaks(0, 0, Due.of(40, M));
+            breaks(0, 0, Due.of(40, J));
+            breaks(0, 0xFFFFFFFFFEL, Due.of(40, A));
+            breaks(0, Kinds.bits(39), Due.of(40, M, A));
         });
         Said.so("Breaks", "Its kind is that of its first letter.", () -> {
             breaks(1, 0, A, M, A, M, M, D);
             breaks(1, 0, B, M, B);
-            breaks(1, bits(1), M, A);
-            breaks(1, bits(2), M, M, A);
-            breaks(1, bits(2), J, A, A);
-            breaks(1, bits(1, 3), A, J, A, A);
-            breaks(2, bits(2), B, M, A);
-            breaks(2, bits(2), S, M, S, M);
+            breaks(1, Kinds.bits(1), M, A);
+            breaks(1, Kinds.bits(2), M, M, A);
+            breaks(1, Kinds.bits(2), J, A, A);
+            breaks(1, Kinds.bits(1, 3), A, J, A, A);
+            breaks(2, Kinds.bits(2), B, M, A);
+            breaks(2, Kinds.bits(2), S, M, S, M);
             breaks(2, 0, M, B, M);
         });
     }
@@ -105,18 +77,18 @@ final class BreakEdges {
                     boolean isNone = isWordly || one == B && other == B;
                     int[] text = one == J ? new int[] {J, O, other} : new int[] {one, other};
                     int place = text.length - 1;
-                    breaks(1, isNone ? 0 : bits(place), text);
+                    breaks(1, isNone ? 0 : Kinds.bits(place), text);
                     boolean isLine = one == B && other != B || one == S && other == S;
-                    breaks(2, isLine ? bits(place) : 0, text);
+                    breaks(2, isLine ? Kinds.bits(place) : 0, text);
                 }
             }
         });
         Said.so("23", "what: 0 of clusters, 1 of words, 2 of lines", () -> {
-            LetterTables x = table();
+            LetterTables x = Kinds.table();
             Due.write(x, 0, A, A, B, B, A);
-            Due.is("0", bits(1, 2, 3, 4), () -> x.breaks(0, 0));
-            Due.is("1", bits(2, 4), () -> x.breaks(0, 1));
-            Due.is("2", bits(4), () -> x.breaks(0, 2));
+            Due.is("0", Kinds.bits(1, 2, 3, 4), () -> x.breaks(0, 0));
+            Due.is("1", Kinds.bits(2, 4), () -> x.breaks(0, 1));
+            Due.is("2", Kinds.bits(4), () -> x.breaks(0, 2));
             Due.thrown("3", Due.ARGUMENT, () -> x.breaks(0, 3));
             Due.thrown("-1", Due.ARGUMENT, () -> x.breaks(0, -1));
         });
@@ -131,119 +103,119 @@ final class BreakEdges {
                     breaks(what, 0, letter, M);
                 }
             }
-            breaks(1, 0xFFFFFFFFFEL, of(40, O));
-            breaks(1, 0, of(40, A, D));
-            breaks(1, 0, of(40, B));
-            breaks(1, bits(39), of(40, A, B));
+            breaks(1, 0xFFFFFFFFFEL, Due.of(40, O));
+            breaks(1, 0, Due.of(40, A, D));
+            breaks(1, 0, Due.of(40, B));
+            breaks(1, Kinds.bits(39), Due.of(40, A, B));
         });
     }
 
     private static void dictionary() {
         Said.so("Breaks", "the longest word of the dictionary that stands there and ends with a cluster, otherwise one"
                 + " cluster, is a word, and so on behind it", () -> {
-                    breaks(1, bits(1, 2), S, S, S);
-                    LetterTables x = table();
+                    breaks(1, Kinds.bits(1, 2), S, S, S);
+                    LetterTables x = Kinds.table();
                     word(x, S, T);
                     word(x, S, T, U);
                     word(x, T, U);
-                    breaks(x, 1, bits(3), S, T, U, S, T);
-                    breaks(x, 1, bits(2), S, T, S, T);
-                    breaks(x, 1, bits(2, 4), S, T, S, T, S, T, U);
-                    breaks(x, 1, bits(3), S, T, U, T, U);
-                    breaks(x, 1, bits(1), U, S, T, U);
-                    breaks(x, 1, bits(1, 2), U, U, U);
+                    breaks(x, 1, Kinds.bits(3), S, T, U, S, T);
+                    breaks(x, 1, Kinds.bits(2), S, T, S, T);
+                    breaks(x, 1, Kinds.bits(2, 4), S, T, S, T, S, T, U);
+                    breaks(x, 1, Kinds.bits(3), S, T, U, T, U);
+                    breaks(x, 1, Kinds.bits(1), U, S, T, U);
+                    breaks(x, 1, Kinds.bits(1, 2), U, U, U);
                     // All of it stands there, not only its beginning.
-                    breaks(x, 1, bits(1), T, S, T);
+                    breaks(x, 1, Kinds.bits(1), T, S, T);
                     breaks(x, 1, 0, S, T);
                     breaks(x, 1, 0, S);
                 });
         Said.so("Breaks", "that stands there and ends with a cluster", () -> {
-            LetterTables x = table();
+            LetterTables x = Kinds.table();
             word(x, S, T);
             breaks(x, 1, 0, S, T);
-            breaks(x, 1, bits(1), S, T, M);
-            breaks(x, 1, bits(1, 3), S, T, M, S, T);
+            breaks(x, 1, Kinds.bits(1), S, T, M);
+            breaks(x, 1, Kinds.bits(1, 3), S, T, M, S, T);
             word(x, S, M);
-            breaks(x, 1, bits(2), S, M, T);
-            breaks(x, 1, bits(3), S, M, M, T);
+            breaks(x, 1, Kinds.bits(2), S, M, T);
+            breaks(x, 1, Kinds.bits(3), S, M, M, T);
             word(x, S);
-            breaks(x, 1, bits(2), S, T, S);
+            breaks(x, 1, Kinds.bits(2), S, T, S);
             word(x, S, T, U);
-            breaks(x, 1, bits(2), S, T, U, M);
+            breaks(x, 1, Kinds.bits(2), S, T, U, M);
             word(x, S, T, U, M);
-            breaks(x, 1, bits(4), S, T, U, M, U);
+            breaks(x, 1, Kinds.bits(4), S, T, U, M, U);
         });
         Said.so("Breaks", "the longest word of the dictionary", () -> {
-            LetterTables x = table();
+            LetterTables x = Kinds.table();
             word(x, S, S);
             word(x, S, S, S, S, S, S, S, S);
             word(x, S);
-            breaks(x, 1, bits(2, 4, 6), of(7, S));
-            breaks(x, 1, 0, of(8, S));
-            breaks(x, 1, bits(8), of(9, S));
-            breaks(x, 1, bits(8, 16, 24, 32), of(40, S));
-            breaks(x, 1, bits(8, 10, 11), of(12, S, T, T));
+            breaks(x, 1, Kinds.bits(2, 4, 6), Due.of(7, S));
+            breaks(x, 1, 0, Due.of(8, S));
+            breaks(x, 1, Kinds.bits(8), Due.of(9, S));
+            breaks(x, 1, Kinds.bits(8, 16, 24, 32), Due.of(40, S));
+            breaks(x, 1, Kinds.bits(8, 10, 11), Due.of(12, S, T, T));
         });
     }
 
     private static void dictionaryRows() {
         Said.so("Breaks", "in a longest row of SEAMLESS clusters, from its beginning on", () -> {
-            LetterTables x = table();
+            LetterTables x = Kinds.table();
             word(x, S, T);
             word(x, A, A);
             word(x, S, T, A);
-            breaks(x, 1, bits(2, 3), S, T, A, S, T);
-            breaks(x, 1, bits(2, 4), A, A, S, T, B);
+            breaks(x, 1, Kinds.bits(2, 3), S, T, A, S, T);
+            breaks(x, 1, Kinds.bits(2, 4), A, A, S, T, B);
             breaks(x, 1, 0, A, A, A);
-            breaks(x, 1, bits(1, 2, 3), S, A, T, S);
-            breaks(x, 1, bits(2), S, M, S, T);
-            breaks(x, 1, bits(1), T, S, T);
-            LetterTables y = table();
+            breaks(x, 1, Kinds.bits(1, 2, 3), S, A, T, S);
+            breaks(x, 1, Kinds.bits(2), S, M, S, T);
+            breaks(x, 1, Kinds.bits(1), T, S, T);
+            LetterTables y = Kinds.table();
             word(y, S, T);
             word(y, T, U);
-            breaks(y, 1, bits(2), S, T, U);
-            breaks(y, 1, bits(2, 3), S, T, U, A, A);
+            breaks(y, 1, Kinds.bits(2), S, T, U);
+            breaks(y, 1, Kinds.bits(2, 3), S, T, U, A, A);
             // A word that goes on beyond the row does not stand there.
-            LetterTables z = table();
+            LetterTables z = Kinds.table();
             word(z, T, U);
             word(z, S, T, U, A);
             word(z, S, T, U, M, A);
-            breaks(z, 1, bits(1, 3), S, T, U, A);
-            breaks(z, 1, bits(1, 2, 4), S, T, U, M, A);
+            breaks(z, 1, Kinds.bits(1, 3), S, T, U, A);
+            breaks(z, 1, Kinds.bits(1, 2, 4), S, T, U, M, A);
             // A letter within a cluster of another kind stands in no row.
-            breaks(y, 1, bits(2), J, S, T, U);
-            breaks(y, 1, bits(3), A, M, M, S, T);
+            breaks(y, 1, Kinds.bits(2), J, S, T, U);
+            breaks(y, 1, Kinds.bits(3), A, M, M, S, T);
         });
         Said.so("Breaks", "or both SEAMLESS and not where words of the dictionary end", () -> {
-            LetterTables x = table();
+            LetterTables x = Kinds.table();
             word(x, S, T, U, S, T, U, S, T);
-            breaks(x, 0, bits(1, 2, 3, 4, 5, 6, 7), S, T, U, S, T, U, S, T);
+            breaks(x, 0, Kinds.bits(1, 2, 3, 4, 5, 6, 7), S, T, U, S, T, U, S, T);
             breaks(x, 1, 0, S, T, U, S, T, U, S, T);
             breaks(x, 2, 0, S, T, U, S, T, U, S, T);
-            breaks(x, 1, bits(1, 2, 3, 4, 5, 6), S, T, U, S, T, U, S);
-            breaks(x, 2, bits(1, 2, 3, 4, 5, 6), S, T, U, S, T, U, S);
+            breaks(x, 1, Kinds.bits(1, 2, 3, 4, 5, 6), S, T, U, S, T, U, S);
+            breaks(x, 2, Kinds.bits(1, 2, 3, 4, 5, 6), S, T, U, S, T, U, S);
         });
     }
 
     private static void lines() {
         Said.so("Breaks", "Lines can end where words end, if the cluster ahead is BLANK and the one behind is not, or both"
                 + " are SEAMLESS.", () -> {
-                    breaks(2, bits(1), B, A);
+                    breaks(2, Kinds.bits(1), B, A);
                     breaks(2, 0, A, B);
                     breaks(2, 0, B, B);
-                    breaks(2, bits(3), A, B, B, A);
-                    breaks(2, bits(1), S, S);
-                    breaks(2, bits(1), B, S);
+                    breaks(2, Kinds.bits(3), A, B, B, A);
+                    breaks(2, Kinds.bits(1), S, S);
+                    breaks(2, Kinds.bits(1), B, S);
                     breaks(2, 0, S, B);
-                    breaks(2, bits(2), S, B, S);
+                    breaks(2, Kinds.bits(2), S, B, S);
                     breaks(2, 0, S, A, S);
-                    breaks(2, bits(39), of(40, B, A));
-                    breaks(2, bits(1), B, O);
-                    breaks(2, 0, of(40, A, B));
-                    breaks(2, 0xFFFFFFFFFEL, of(40, S));
-                    LetterTables x = table();
+                    breaks(2, Kinds.bits(39), Due.of(40, B, A));
+                    breaks(2, Kinds.bits(1), B, O);
+                    breaks(2, 0, Due.of(40, A, B));
+                    breaks(2, 0xFFFFFFFFFEL, Due.of(40, S));
+                    LetterTables x = Kinds.table();
                     word(x, S, T);
-                    breaks(x, 2, bits(2), S, T, U);
+                    breaks(x, 2, Kinds.bits(2), S, T, U);
                     breaks(x, 2, 0, S, T);
                 });
     }
@@ -252,31 +224,31 @@ final class BreakEdges {
         Said.so("23", "Returns where breaks are.", () -> {
             for (int slot = 0; slot < 6; slot++) {
                 int own = slot;
-                LetterTables x = table();
+                LetterTables x = Kinds.table();
                 Due.is("none in an empty text", 0, () -> x.breaks(own, 0));
                 Due.write(x, slot, B, A);
                 for (int what = 0; what < 3; what++) {
                     int which = what;
-                    Due.is("slot " + slot + " of " + what, bits(1), () -> x.breaks(own, which));
+                    Due.is("slot " + slot + " of " + what, Kinds.bits(1), () -> x.breaks(own, which));
                 }
             }
         });
         Said.so("23", "Returns bit i for a break ahead of the letter i, from 1 on.", () -> {
             for (int size = 1; size <= 40; size++) {
                 for (int what = 0; what < 3; what++) {
-                    breaks(what, (1L << size) - 2, of(size, S));
+                    breaks(what, (1L << size) - 2, Due.of(size, S));
                 }
             }
         });
         Said.so("23", "Throws IndexOutOfBoundsException if there is no such slot", () -> {
-            LetterTables x = table();
+            LetterTables x = Kinds.table();
             Due.thrown("6", Due.INDEX, () -> x.breaks(6, 0));
             Due.thrown("-1, what out of range", Due.INDEX, () -> x.breaks(-1, 3));
         });
     }
 
     private static void moves(int[] text, int[] on, int[] back) {
-        LetterTables x = table();
+        LetterTables x = Kinds.table();
         Due.write(x, 0, text);
         for (int i = 0; i < on.length; i++) {
             int place = i;
@@ -289,20 +261,16 @@ final class BreakEdges {
         Due.thrown("-1", Due.INDEX, () -> x.bySense(0, -1, false));
     }
 
-    private static int[] row(int... places) {
-        return places;
-    }
-
     private static void sense() {
         Said.so("24", "to the next, or the last, place at which a cluster begins, or the text ends", () -> {
-            moves(row(A, A), row(1, 2, 2), row(0, 0, 1));
-            moves(row(A, M, A, J, A), row(2, 2, 3, 5, 5, 5), row(0, 0, 0, 2, 3, 3));
-            moves(row(M, M), row(2, 2, 2), row(0, 0, 0));
-            moves(row(J, A, A), row(2, 2, 3, 3), row(0, 0, 0, 2));
+            moves(Due.row(A, A), Due.row(1, 2, 2), Due.row(0, 0, 1));
+            moves(Due.row(A, M, A, J, A), Due.row(2, 2, 3, 5, 5, 5), Due.row(0, 0, 0, 2, 3, 3));
+            moves(Due.row(M, M), Due.row(2, 2, 2), Due.row(0, 0, 0));
+            moves(Due.row(J, A, A), Due.row(2, 2, 3, 3), Due.row(0, 0, 0, 2));
         });
         Said.so("24", "Returns the place", () -> {
-            LetterTables x = table();
-            Due.write(x, 5, of(40, A));
+            LetterTables x = Kinds.table();
+            Due.write(x, 5, Due.of(40, A));
             Due.is("from the first", 1, () -> x.bySense(5, 0, true));
             Due.is("to the end", 40, () -> x.bySense(5, 39, true));
             Due.is("from the end", 39, () -> x.bySense(5, 40, false));
@@ -310,11 +278,11 @@ final class BreakEdges {
             Due.thrown("behind the end", Due.INDEX, () -> x.bySense(5, 41, false));
         });
         Said.so("24", "that which it has, if there is none", () -> {
-            moves(row(), row(0), row(0));
-            moves(row(A), row(1, 1), row(0, 0));
-            moves(row(M), row(1, 1), row(0, 0));
-            LetterTables x = table();
-            Due.write(x, 0, of(40, M));
+            moves(Due.row(), Due.row(0), Due.row(0));
+            moves(Due.row(A), Due.row(1, 1), Due.row(0, 0));
+            moves(Due.row(M), Due.row(1, 1), Due.row(0, 0));
+            LetterTables x = Kinds.table();
+            Due.write(x, 0, Due.of(40, M));
             Due.is("at the end of a full text", 40, () -> x.bySense(0, 40, true));
             Due.is("at its beginning", 0, () -> x.bySense(0, 0, false));
         });

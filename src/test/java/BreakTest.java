@@ -1,7 +1,8 @@
 /** Promises 23 and 24, breaks, with answers worked out by hand from the document. */
 public final class BreakTest {
     private static final int N = LetterTables.NONE;
-    private static final int O = 0, A = 1, D = 2, B = 3, S = 10, T = 11, U = 12, M = 6, J = 7;
+    private static final int O = Kinds.O, A = Kinds.A, D = Kinds.D, B = Kinds.B, M = Kinds.M, J = Kinds.J, S = Kinds.S,
+            T = Kinds.T, U = Kinds.U;
 
     public static void main(String[] args) {
         clusters();
@@ -12,41 +13,22 @@ public final class BreakTest {
         Due.end();
     }
 
-    private static LetterTables table() {
-        LetterTables x = new LetterTables();
-        int[][] all = {{A, LetterTables.LETTER}, {D, LetterTables.DIGIT}, {B, LetterTables.BLANK},
-            {S, LetterTables.SEAMLESS}, {T, LetterTables.SEAMLESS}, {U, LetterTables.SEAMLESS}, {M, LetterTables.MARK},
-            {J, LetterTables.JOINER}};
-        for (int[] one : all) {
-            x.letter(one[0], 0, LetterTables.NEUTRAL, one[1], one[0]);
-        }
-        return x;
-    }
-
-    private static long bits(int... places) {
-        long all = 0;
-        for (int place : places) {
-            all |= 1L << place;
-        }
-        return all;
-    }
-
     private static void breaks(LetterTables x, int what, long want, int... text) {
         Due.write(x, 0, text);
         Due.is("23: breaks " + what + " of " + Due.read(x, 0), want, () -> x.breaks(0, what));
     }
 
     private static void clusters() {
-        LetterTables x = table();
+        LetterTables x = Kinds.table();
         breaks(x, 0, 0);
         breaks(x, 0, 0, A);
         breaks(x, 0, 0, M);
-        breaks(x, 0, bits(1), A, A);
+        breaks(x, 0, Kinds.bits(1), A, A);
         breaks(x, 0, 0, A, M, M);
-        breaks(x, 0, bits(1), M, A, M);
-        breaks(x, 0, bits(1, 3), A, J, A, A);
-        breaks(x, 0, bits(1), A, J, J, A);
-        breaks(x, 0, bits(1, 3, 5, 6, 8), M, A, M, J, M, A, J, A, A);
+        breaks(x, 0, Kinds.bits(1), M, A, M);
+        breaks(x, 0, Kinds.bits(1, 3), A, J, A, A);
+        breaks(x, 0, Kinds.bits(1), A, J, J, A);
+        breaks(x, 0, Kinds.bits(1, 3, 5, 6, 8), M, A, M, J, M, A, J, A, A);
         int[] full = new int[40];
         breaks(x, 0, 0xFFFFFFFFFEL, full);
         full[39] = M;
@@ -54,32 +36,32 @@ public final class BreakTest {
     }
 
     private static void words() {
-        LetterTables x = table();
+        LetterTables x = Kinds.table();
         breaks(x, 1, 0);
         breaks(x, 2, 0);
         breaks(x, 1, 0, A, D, A, A, D, D);
-        breaks(x, 1, bits(1, 3), A, B, B, A);
-        breaks(x, 2, bits(3), A, B, B, A);
-        breaks(x, 1, bits(1, 2, 3), A, O, O, A);
+        breaks(x, 1, Kinds.bits(1, 3), A, B, B, A);
+        breaks(x, 2, Kinds.bits(3), A, B, B, A);
+        breaks(x, 1, Kinds.bits(1, 2, 3), A, O, O, A);
         breaks(x, 2, 0, A, O, O, A);
-        breaks(x, 2, bits(2, 4), O, B, O, B, D, B);
-        breaks(x, 1, bits(1), B, S);
-        breaks(x, 2, bits(1), B, S);
-        breaks(x, 1, bits(1), S, S);
-        breaks(x, 2, bits(1), S, S);
-        breaks(x, 1, bits(1, 2), S, B, S);
-        breaks(x, 2, bits(2), S, B, S);
-        breaks(x, 1, bits(1, 2), S, A, S);
+        breaks(x, 2, Kinds.bits(2, 4), O, B, O, B, D, B);
+        breaks(x, 1, Kinds.bits(1), B, S);
+        breaks(x, 2, Kinds.bits(1), B, S);
+        breaks(x, 1, Kinds.bits(1), S, S);
+        breaks(x, 2, Kinds.bits(1), S, S);
+        breaks(x, 1, Kinds.bits(1, 2), S, B, S);
+        breaks(x, 2, Kinds.bits(2), S, B, S);
+        breaks(x, 1, Kinds.bits(1, 2), S, A, S);
         breaks(x, 2, 0, S, A, S);
         // A cluster has the kind of its first letter.
         breaks(x, 1, 0, A, M, A);
         breaks(x, 1, 0, B, M, B);
-        breaks(x, 1, bits(1), M, A);
-        breaks(x, 1, bits(3), M, M, M, A);
-        breaks(x, 1, bits(2), J, A, A);
-        breaks(x, 2, bits(1), B, J, B);
-        breaks(x, 1, bits(1), A, J, A);
-        breaks(x, 2, bits(2), S, M, S, J);
+        breaks(x, 1, Kinds.bits(1), M, A);
+        breaks(x, 1, Kinds.bits(3), M, M, M, A);
+        breaks(x, 1, Kinds.bits(2), J, A, A);
+        breaks(x, 2, Kinds.bits(1), B, J, B);
+        breaks(x, 1, Kinds.bits(1), A, J, A);
+        breaks(x, 2, Kinds.bits(2), S, M, S, J);
         int[] full = new int[40];
         breaks(x, 1, 0xFFFFFFFFFEL, full);
         full[38] = B;
@@ -92,44 +74,44 @@ public final class BreakTest {
     }
 
     private static void dictionary() {
-        LetterTables x = table();
+        LetterTables x = Kinds.table();
         word(x, S, T);
         word(x, S, T, U);
         word(x, T, U);
-        breaks(x, 1, bits(3), S, T, U, T, U);
-        breaks(x, 2, bits(3), S, T, U, T, U);
-        breaks(x, 1, bits(2), S, T, S, T, U);
-        breaks(x, 1, bits(1), U, S, T);
-        breaks(x, 1, bits(1, 2, 3), U, U, U, U);
-        breaks(x, 1, bits(2, 3), S, T, A, S, T);
+        breaks(x, 1, Kinds.bits(3), S, T, U, T, U);
+        breaks(x, 2, Kinds.bits(3), S, T, U, T, U);
+        breaks(x, 1, Kinds.bits(2), S, T, S, T, U);
+        breaks(x, 1, Kinds.bits(1), U, S, T);
+        breaks(x, 1, Kinds.bits(1, 2, 3), U, U, U, U);
+        breaks(x, 1, Kinds.bits(2, 3), S, T, A, S, T);
         breaks(x, 2, 0, S, T, A, S, T);
         // The longest one there ends within a cluster, so the one that ends with a cluster is taken.
-        breaks(x, 1, bits(2), S, T, U, M);
-        breaks(x, 1, bits(1), S, T, M);
+        breaks(x, 1, Kinds.bits(2), S, T, U, M);
+        breaks(x, 1, Kinds.bits(1), S, T, M);
         word(x, S, M);
-        breaks(x, 1, bits(2, 4), S, M, S, M, S);
-        breaks(x, 1, bits(2), S, M, T, U);
+        breaks(x, 1, Kinds.bits(2, 4), S, M, S, M, S);
+        breaks(x, 1, Kinds.bits(2), S, M, T, U);
         // Words stand within a row of SEAMLESS clusters.
         word(x, S, T, U, A);
-        breaks(x, 1, bits(3), S, T, U, A);
+        breaks(x, 1, Kinds.bits(3), S, T, U, A);
         word(x, A, A);
         breaks(x, 1, 0, A, A, A);
-        breaks(x, 1, bits(1), A, S, T, U);
+        breaks(x, 1, Kinds.bits(1), A, S, T, U);
         // Not even one that would go on beyond it.
-        LetterTables z = table();
+        LetterTables z = Kinds.table();
         word(z, T, U);
         word(z, S, T, U, A);
-        breaks(z, 1, bits(1, 3), S, T, U, A);
+        breaks(z, 1, Kinds.bits(1, 3), S, T, U, A);
         // The rest of a row is looked at from the end of the last word.
-        LetterTables y = table();
+        LetterTables y = Kinds.table();
         word(y, S, T, U, S, T, U, S, T);
         word(y, T, U);
-        breaks(y, 1, bits(8), S, T, U, S, T, U, S, T, T, U);
-        breaks(y, 1, bits(1, 3, 4, 6), S, T, U, S, T, U, S);
+        breaks(y, 1, Kinds.bits(8), S, T, U, S, T, U, S, T, T, U);
+        breaks(y, 1, Kinds.bits(1, 3, 4, 6), S, T, U, S, T, U, S);
     }
 
     private static void wrong() {
-        LetterTables x = table();
+        LetterTables x = Kinds.table();
         Due.thrown("23: slot", Due.INDEX, () -> x.breaks(6, 3));
         Due.thrown("23: slot", Due.INDEX, () -> x.breaks(-1, 0));
         Due.thrown("23: what 3", Due.ARGUMENT, () -> x.breaks(0, 3));
@@ -145,7 +127,7 @@ public final class BreakTest {
     }
 
     private static void sense() {
-        LetterTables x = table();
+        LetterTables x = Kinds.table();
         moves(x, new int[] {0}, new int[] {0});
         Due.write(x, 0, A);
         moves(x, new int[] {1, 1}, new int[] {0, 0});

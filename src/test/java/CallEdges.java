@@ -60,10 +60,6 @@ final class CallEdges {
         return new Arg(words, least, greatest, Due.ARGUMENT);
     }
 
-    private static int[] row(int... right) {
-        return right;
-    }
-
     static void all() {
         tables();
         languages();
@@ -79,17 +75,17 @@ final class CallEdges {
     // ---- the calls
 
     private static void tables() {
-        new CallEdges("3", "letter", row(5, 0, 0, 0, 5), (x, a) -> {
+        new CallEdges("3", "letter", Due.row(5, 0, 0, 0, 5), (x, a) -> {
             x.letter(a[0], a[1], a[2], a[3], a[4]);
             return 0;
         }, letter(), range("joins: 0 to 9", 0, 9), range("direction: LEFT to POP_ISOLATE", 0, 10),
                 range("kind: OTHER to SEAMLESS", 0, 6), range("like: 0 to 95: what it looks like", 0, 95)).go();
-        new CallEdges("4", "split", row(5, -1, -1), (x, a) -> {
+        new CallEdges("4", "split", Due.row(5, -1, -1), (x, a) -> {
             x.split(a[0], a[1], a[2]);
             return 0;
         }, letter(), range("NONE for not", -1, -1), range("NONE for not", -1, -1)).go();
-        for (int letter : row(1, 2, 5, 95)) {
-            new CallEdges("4", "split " + letter, row(0, 0), (x, a) -> {
+        for (int letter : Due.row(1, 2, 5, 95)) {
+            new CallEdges("4", "split " + letter, Due.row(0, 0), (x, a) -> {
                 x.split(letter, a[0], a[1]);
                 return 0;
             }, range("one: 0 to letter - 1", 0, letter - 1), range("other: 0 to letter - 1", 0, letter - 1)).go();
@@ -98,19 +94,19 @@ final class CallEdges {
             x.capital(a[0], a[1], a[2]);
             return 0;
         };
-        new CallEdges("5", "capital", row(5, 1, 2), capital, letter(), range("one: 0 to 95", 0, 95),
+        new CallEdges("5", "capital", Due.row(5, 1, 2), capital, letter(), range("one: 0 to 95", 0, 95),
                 range("other: 0 to 95", -1, 95)).go();
-        new CallEdges("5", "capital", row(5, -1, -1), capital, letter(), range("NONE for none", -1, 95),
+        new CallEdges("5", "capital", Due.row(5, -1, -1), capital, letter(), range("NONE for none", -1, 95),
                 range("NONE for a form of one letter", -1, -1)).go();
         Consumer<LetterTables> taken = x -> x.partners(40, 7);
-        new CallEdges("6", "partners", row(40, 41), (x, a) -> {
+        new CallEdges("6", "partners", Due.row(40, 41), (x, a) -> {
             x.partners(a[0], a[1]);
             return 0;
         }, place("opening: the one that opens", 0, 95), place("closing: the one that closes", 0, 95)).stuck(taken).go();
     }
 
     private static void languages() {
-        new CallEdges("7", "weigh", row(0, 5, 1, 1, 1), (x, a) -> {
+        new CallEdges("7", "weigh", Due.row(0, 5, 1, 1, 1), (x, a) -> {
             x.weigh(a[0], a[1], a[2], a[3], a[4]);
             return 0;
         }, language(), letter(), range("first: 0 to 99", 0, 99), range("second: 0 to 9", 0, 9),
@@ -120,7 +116,7 @@ final class CallEdges {
                 x.contract(0, 80, i, 1, 1, 1);
             }
         };
-        new CallEdges("8", "contract", row(0, 5, 6, 1, 1, 1), (x, a) -> x.contract(a[0], a[1], a[2], a[3], a[4], a[5]),
+        new CallEdges("8", "contract", Due.row(0, 5, 6, 1, 1, 1), (x, a) -> x.contract(a[0], a[1], a[2], a[3], a[4], a[5]),
                 language(), place("one: a letter", 0, 95), place("other: a letter", 0, 95),
                 range("first: 0 to 99", 0, 99), range("second: 0 to 9", 0, 9), range("third: 0 to 9", 0, 9))
                 .stuck(six).go();
@@ -130,26 +126,26 @@ final class CallEdges {
             }
         };
         Ask plural = (x, a) -> x.plural(a[0], a[1], a[2], a[3], a[4], a[5], a[6], a[7]);
-        new CallEdges("9", "plural", row(0, 1, 10, 2, 4, 100, 12, 14), plural, language(),
+        new CallEdges("9", "plural", Due.row(0, 1, 10, 2, 4, 100, 12, 14), plural, language(),
                 range("number: ONE to MANY", 0, 2), range("modulo: 1 to 100", 1, 100), range(null, 0, 4),
                 range("to: from to 99", 2, 99), range(null, 1, 100), range(null, 0, 14),
                 range("otherTo: otherFrom to 99", 12, 99)).stuck(four).go();
-        new CallEdges("9", "plural", row(0, 1, 10, 2, 4, 0, 0, 0), plural, language(), range(null, 0, 2),
+        new CallEdges("9", "plural", Due.row(0, 1, 10, 2, 4, 0, 0, 0), plural, language(), range(null, 0, 2),
                 range(null, 1, 100), range(null, 0, 4), range(null, 2, 99),
                 range("other: 1 to 100, or 0 for no other number", 0, 100), range("0 without another number", 0, 0),
                 range("0 likewise", 0, 0)).stuck(four).go();
-        new CallEdges("9", "plural", row(0, 1, 100, 0, 99, 1, 0, 99), plural, language(), range(null, 0, 2),
+        new CallEdges("9", "plural", Due.row(0, 1, 100, 0, 99, 1, 0, 99), plural, language(), range(null, 0, 2),
                 range(null, 1, 100), range("from: 0 to 99", 0, 99), range(null, 0, 99), range(null, 1, 100),
                 range("otherFrom: 0 to 99", 0, 99), range(null, 0, 99)).go();
     }
 
     private static void rows() {
-        new CallEdges("10", "addWord", row(3), (x, a) -> x.addWord(a[0]), slot()).stuck(x -> {
+        new CallEdges("10", "addWord", Due.row(3), (x, a) -> x.addWord(a[0]), slot()).stuck(x -> {
             for (int i = 0; i < 5; i++) {
                 x.addWord(1);
             }
         }).go();
-        new CallEdges("11", "addRule", row(0, 1, 1, 1, 1), (x, a) -> x.addRule(a[0], a[1], a[2], a[3], a[4]),
+        new CallEdges("11", "addRule", Due.row(0, 1, 1, 1, 1), (x, a) -> x.addRule(a[0], a[1], a[2], a[3], a[4]),
                 range("pass: 0 or 1", 0, 1), place("ahead: a slot", 0, 5), place("source: a slot", 0, 5),
                 place("behind: a slot", 0, 5), place("target: a slot", 0, 5)).stuck(x -> {
                     for (int i = 0; i < 6; i++) {
@@ -159,11 +155,11 @@ final class CallEdges {
     }
 
     private static void versions() {
-        new CallEdges("12", "save", row(), (x, a) -> x.save()).stuck(x -> {
+        new CallEdges("12", "save", Due.row(), (x, a) -> x.save()).stuck(x -> {
             x.save();
             x.save();
         }).go();
-        new CallEdges("13", "use", row(1), (x, a) -> {
+        new CallEdges("13", "use", Due.row(1), (x, a) -> {
             x.use(a[0]);
             return 0;
         }, place(null, 0, 1)).go();
@@ -184,55 +180,55 @@ final class CallEdges {
     }
 
     private static void texts() {
-        new CallEdges("14", "put", row(0, 5), (x, a) -> x.put(a[0], a[1]), slot(), letter())
+        new CallEdges("14", "put", Due.row(0, 5), (x, a) -> x.put(a[0], a[1]), slot(), letter())
                 .stuck(x -> fill(x, 0, 50, 40)).go();
-        new CallEdges("15", "clear", row(0), (x, a) -> x.clear(a[0]), slot()).go();
-        new CallEdges("16", "at", row(0, 0), (x, a) -> x.at(a[0], a[1]), slot(), place(null, -1, 1)).go();
-        new CallEdges("17", "form", row(0, 0, 1), (x, a) -> x.form(a[0], a[1], a[2]), slot(),
+        new CallEdges("15", "clear", Due.row(0), (x, a) -> x.clear(a[0]), slot()).go();
+        new CallEdges("16", "at", Due.row(0, 0), (x, a) -> x.at(a[0], a[1]), slot(), place(null, -1, 1)).go();
+        new CallEdges("17", "form", Due.row(0, 0, 1), (x, a) -> x.form(a[0], a[1], a[2]), slot(),
                 range("form: 0 split, 1 joined, 2 folded, 3 the skeleton", 0, 3), slot()).stuck(CallEdges::hide).go();
         Ask alike = (x, a) -> x.looksLike(a[0], a[1]) ? 1 : 0;
-        new CallEdges("18", "looksLike", row(0, 1), alike, slot(), slot()).stuck(CallEdges::hide).go();
-        new CallEdges("18", "looksLike", row(1, 0), alike, slot(), slot()).stuck(CallEdges::hide).go();
+        new CallEdges("18", "looksLike", Due.row(0, 1), alike, slot(), slot()).stuck(CallEdges::hide).go();
+        new CallEdges("18", "looksLike", Due.row(1, 0), alike, slot(), slot()).stuck(CallEdges::hide).go();
     }
 
     private static void directions() {
-        new CallEdges("19", "base", row(0), (x, a) -> x.base(a[0]), slot()).go();
-        new CallEdges("20", "level", row(0, 0, 0), (x, a) -> x.level(a[0], a[1], a[2]), slot(), place(null, 0, 1),
+        new CallEdges("19", "base", Due.row(0), (x, a) -> x.base(a[0]), slot()).go();
+        new CallEdges("20", "level", Due.row(0, 0, 0), (x, a) -> x.level(a[0], a[1], a[2]), slot(), place(null, 0, 1),
                 range("base: 0, 1, or NONE: not told", -1, 1)).go();
-        new CallEdges("21", "shown", row(0, 0, 0), (x, a) -> x.shown(a[0], a[1], a[2]), slot(), place(null, 0, 1),
+        new CallEdges("21", "shown", Due.row(0, 0, 0), (x, a) -> x.shown(a[0], a[1], a[2]), slot(), place(null, 0, 1),
                 range("base: 0, 1, or NONE", -1, 1)).go();
         for (int right = 0; right < 2; right++) {
             boolean is = right == 1;
-            new CallEdges("22", "bySight", row(0, 0), (x, a) -> x.bySight(a[0], a[1], is), slot(), place(null, 0, 1))
+            new CallEdges("22", "bySight", Due.row(0, 0), (x, a) -> x.bySight(a[0], a[1], is), slot(), place(null, 0, 1))
                     .go();
-            new CallEdges("24", "bySense", row(0, 0), (x, a) -> x.bySense(a[0], a[1], is), slot(),
+            new CallEdges("24", "bySense", Due.row(0, 0), (x, a) -> x.bySense(a[0], a[1], is), slot(),
                     place("place: 0 to how many letters it has", 0, 2)).go();
         }
-        new CallEdges("23", "breaks", row(0, 0), (x, a) -> x.breaks(a[0], a[1]), slot(),
+        new CallEdges("23", "breaks", Due.row(0, 0), (x, a) -> x.breaks(a[0], a[1]), slot(),
                 range("what: 0 of clusters, 1 of words, 2 of lines", 0, 2)).go();
     }
 
     private static void orders() {
         Ask compare = (x, a) -> x.compare(a[0], a[1], a[2]);
-        new CallEdges("25", "compare", row(0, 0, 1), compare, language(), slot(), slot()).stuck(CallEdges::hide).go();
-        new CallEdges("25", "compare", row(1, 1, 0), compare, language(), slot(), slot()).stuck(CallEdges::hide).go();
-        CallEdges key = new CallEdges("26", "key", row(0, 0, 0), (x, a) -> x.key(a[0], a[1], a[2]), language(), slot(),
+        new CallEdges("25", "compare", Due.row(0, 0, 1), compare, language(), slot(), slot()).stuck(CallEdges::hide).go();
+        new CallEdges("25", "compare", Due.row(1, 1, 0), compare, language(), slot(), slot()).stuck(CallEdges::hide).go();
+        CallEdges key = new CallEdges("26", "key", Due.row(0, 0, 0), (x, a) -> x.key(a[0], a[1], a[2]), language(), slot(),
                 place("ahead of a place that there is not", -1, 1)).stuck(CallEdges::hide);
         key.late = 2;
         key.go();
         Ask find = (x, a) -> x.find(a[0], a[1], a[2]);
-        new CallEdges("27", "find", row(0, 1, 0), find, slot(), slot(), range("from: 0 to 40", 0, 40))
+        new CallEdges("27", "find", Due.row(0, 1, 0), find, slot(), slot(), range("from: 0 to 40", 0, 40))
                 .stuck(CallEdges::hide).go();
-        new CallEdges("27", "find", row(1, 0, 40), find, slot(), slot(), range("from: 0 to 40", 0, 40))
+        new CallEdges("27", "find", Due.row(1, 0, 40), find, slot(), slot(), range("from: 0 to 40", 0, 40))
                 .stuck(CallEdges::hide).go();
-        new CallEdges("29", "match", row(0, 0), (x, a) -> x.match(a[0], a[1]), slot(),
+        new CallEdges("29", "match", Due.row(0, 0), (x, a) -> x.match(a[0], a[1]), slot(),
                 place("place: 0 to how many letters it has", 0, 2)).stuck(null, Rich.TAPE).go();
         for (int pass = 0; pass < 2; pass++) {
             int in = pass;
-            new CallEdges("30", "transliterate", row(0, 1), (x, a) -> x.transliterate(a[0], a[1], in == 1), slot(),
+            new CallEdges("30", "transliterate", Due.row(0, 1), (x, a) -> x.transliterate(a[0], a[1], in == 1), slot(),
                     slot()).stuck(x -> grow(x, in)).go();
         }
-        new CallEdges("31", "classOf", row(0, 5), (x, a) -> x.classOf(a[0], a[1]), language(),
+        new CallEdges("31", "classOf", Due.row(0, 5), (x, a) -> x.classOf(a[0], a[1]), language(),
                 range("number: 0 to 999999", 0, 999999)).go();
     }
 
@@ -246,18 +242,18 @@ final class CallEdges {
     }
 
     private static void tapes() {
-        new CallEdges("2", "feed", row(1), (x, a) -> x.feed(65, a[0]), range("n: 1 to 8", 1, 8)).stuck(x -> {
+        new CallEdges("2", "feed", Due.row(1), (x, a) -> x.feed(65, a[0]), range("n: 1 to 8", 1, 8)).stuck(x -> {
             for (int i = Rich.TAPE.length(); i < 160; i += 4) {
                 x.feed(0x64646464L, 4);
             }
         }).go();
-        new CallEdges("28", "pattern", row(), (x, a) -> x.pattern()).stuck(Rich.PATTERN, "*").go();
-        new CallEdges("32", "message", row(0, 1, 1, 1, 1), (x, a) -> x.message(a[0], a[1], a[2], a[3], a[4]),
+        new CallEdges("28", "pattern", Due.row(), (x, a) -> x.pattern()).stuck(Rich.PATTERN, "*").go();
+        new CallEdges("32", "message", Due.row(0, 1, 1, 1, 1), (x, a) -> x.message(a[0], a[1], a[2], a[3], a[4]),
                 language(), range("one: 0 to 999999", 0, 999999), range("two: likewise", 0, 999999),
                 range("three: likewise", 0, 999999), range("four: likewise", 0, 999999))
                 .stuck(Rich.PATTERN, "{").go();
-        new CallEdges("34", "encode", row(0), (x, a) -> x.encode(a[0]), slot()).go();
-        new CallEdges("35", "decode", row(0), (x, a) -> x.decode(a[0]), place("the tape stays", 0, 5))
+        new CallEdges("34", "encode", Due.row(0), (x, a) -> x.encode(a[0]), slot()).go();
+        new CallEdges("35", "decode", Due.row(0), (x, a) -> x.decode(a[0]), place("the tape stays", 0, 5))
                 .stuck(Rich.PATTERN, "a".repeat(41)).go();
     }
 
@@ -313,12 +309,12 @@ final class CallEdges {
 
     private void ends(int at) {
         Arg arg = args[at];
-        for (int value : row(arg.least, arg.greatest, right[at])) {
+        for (int value : Due.row(arg.least, arg.greatest, right[at])) {
             int[] a = with(at, value);
             LetterTables x = Rich.ready();
             Due.goes(told(a), () -> ask.ask(x, a));
         }
-        for (int value : row(arg.least - 1, arg.greatest + 1, arg.least - 2, arg.greatest + 100, MIN, MAX)) {
+        for (int value : Due.row(arg.least - 1, arg.greatest + 1, arg.least - 2, arg.greatest + 100, MIN, MAX)) {
             int[] a = with(at, value);
             LetterTables x = Rich.ready();
             Due.thrown(told(a), arg.wrong, () -> ask.ask(x, a));
@@ -364,7 +360,7 @@ final class CallEdges {
     }
 
     private void stays(int at) {
-        for (int value : row(args[at].least - 1, args[at].greatest + 1)) {
+        for (int value : Due.row(args[at].least - 1, args[at].greatest + 1)) {
             LetterTables x = Rich.ready();
             int[] a = with(at, value);
             Due.thrown(told(a), args[at].wrong, () -> ask.ask(x, a));

@@ -36,21 +36,10 @@ final class DirectionEdges {
         sight();
     }
 
-    private static int[] row(int... letters) {
-        return letters;
-    }
-
     private static int[] behind(int[] first, int... letters) {
         int[] all = Arrays.copyOf(first, first.length + letters.length);
         System.arraycopy(letters, 0, all, first.length, letters.length);
         return all;
-    }
-
-    /** A text of so many letters, of which only the last ones are others. */
-    private static int[] of(int size, int letter, int... last) {
-        int[] all = new int[size - last.length];
-        Arrays.fill(all, letter);
-        return behind(all, last);
     }
 
     private static void base(int want, int... text) {
@@ -82,8 +71,8 @@ final class DirectionEdges {
             base(0, L, R);
             base(1, NUM, GAP, EL, POP, R, L);
             base(0, NUM, GAP, ER, POP, L, R);
-            base(1, of(40, GAP, R));
-            base(0, of(40, GAP, L));
+            base(1, Due.of(40, GAP, R));
+            base(0, Due.of(40, GAP, L));
             base(0, IR, R);
             base(1, IL, L, PI, R);
         });
@@ -93,7 +82,7 @@ final class DirectionEdges {
             base(0, NUM, NUM);
             base(0, ER);
             base(0, IR, PI, PI);
-            base(0, of(40, NUM));
+            base(0, Due.of(40, NUM));
         });
         Said.so("19", "Returns the base of a text, if it is not told.", () -> {
             for (int slot = 0; slot < 6; slot++) {
@@ -114,9 +103,9 @@ final class DirectionEdges {
     private static void isolates() {
         Said.so("Directions", "An isolate reaches from one of the three ISOLATEs behind it up to the POP_ISOLATE that"
                 + " closes it, or the end of the text", () -> {
-                    for (int isolate : row(IL, IR, IF)) {
+                    for (int isolate : Due.row(IL, IR, IF)) {
                         base(0, isolate, R, R);
-                        base(0, behind(row(isolate), of(39, R)));
+                        base(0, behind(Due.row(isolate), Due.of(39, R)));
                         base(1, isolate, L, PI, R, L);
                         base(0, isolate, R, PI, L, R);
                         base(1, isolate, PI, R);
@@ -151,7 +140,7 @@ final class DirectionEdges {
             levels(0, "1 0", R, GAP);
             levels(N, "0 0", L, GAP);
             levels(1, "2 1", L, GAP);
-            levels(N, "1" + " 1".repeat(39), of(40, GAP, R));
+            levels(N, "1" + " 1".repeat(39), Due.of(40, GAP, R));
         });
         Said.so("Directions", "Each frame is found by itself, with the letters that are in it, one behind the other", () -> {
             // What is in another frame is neither ahead nor behind.
@@ -208,11 +197,11 @@ final class DirectionEdges {
             levels(0, AHEAD + "8 9 9", behind(TO_9, IF, R));
             levels(0, AHEAD + "8 9 9 9 9 9 9", behind(TO_9, IL, IR, GAP, PI, PI, GAP));
             // As many frames as a text has room for.
-            levels(1, "1 3 5 7" + " 9".repeat(36), of(40, ER));
-            levels(0, "0 2 4 6" + " 8".repeat(36), of(40, EL));
-            levels(0, "0 2 4 6" + " 8".repeat(35) + " 9", of(40, EL, ER, GAP));
-            levels(0, "0 1 3 5 7" + " 9".repeat(35), of(40, IR));
-            levels(0, "0 2 4 6" + " 8".repeat(36), of(40, IF));
+            levels(1, "1 3 5 7" + " 9".repeat(36), Due.of(40, ER));
+            levels(0, "0 2 4 6" + " 8".repeat(36), Due.of(40, EL));
+            levels(0, "0 2 4 6" + " 8".repeat(35) + " 9", Due.of(40, EL, ER, GAP));
+            levels(0, "0 1 3 5 7" + " 9".repeat(35), Due.of(40, IR));
+            levels(0, "0 2 4 6" + " 8".repeat(36), Due.of(40, IF));
         });
     }
 
@@ -237,7 +226,7 @@ final class DirectionEdges {
                     levels(0, "0 2 3 2 2 0 1", IF, IR, R, PI, L, PI, R);
                     levels(0, "0 1 2 1 1", IF, IL, L, PI, R);
                     levels(0, "0 2 4", IF, IL, L);
-                    levels(0, "0 1" + " 1".repeat(38), behind(row(IF), of(39, GAP, R)));
+                    levels(0, "0 1" + " 1".repeat(38), behind(Due.row(IF), Due.of(39, GAP, R)));
                 });
     }
 
@@ -268,7 +257,7 @@ final class DirectionEdges {
                     levels(0, "0 1 3 4 1 1 0 0", IR, IR, EL, GAP, PI, GAP, PI, GAP);
                     levels(0, "0 0 0 0", IR, PI, PI, GAP);
                     levels(0, "0 1 1 1", ER, PI, PI, GAP);
-                    levels(0, "0 1 3 5 7 9" + " 9".repeat(32) + " 0 0", behind(row(IR), of(39, ER, PI, GAP)));
+                    levels(0, "0 1 3 5 7 9" + " 9".repeat(32) + " 0 0", behind(Due.row(IR), Due.of(39, ER, PI, GAP)));
                 });
         Said.so("Directions", "What is left open ends with the text.", () -> {
             LetterTables x = Directed.table();
@@ -303,8 +292,8 @@ final class DirectionEdges {
                     levels(1, "2 2", L, NUM);
                     levels(1, "1 2 2 2", R, L, NUM, L);
                     levels(0, "0 2", EL, NUM);
-                    levels(0, "0" + " 0".repeat(39), of(40, NUM));
-                    levels(1, "2" + " 2".repeat(39), behind(row(L), of(39, NUM)));
+                    levels(0, "0" + " 0".repeat(39), Due.of(40, NUM));
+                    levels(1, "2" + " 2".repeat(39), behind(Due.row(L), Due.of(39, NUM)));
                     // A row that goes left by the level 1: what is neutral among numbers shows that they went left.
                     levels(1, "2 2 2 2", L, NUM, GAP, L);
                     levels(1, "2 1 1", NUM, GAP, R);
@@ -316,8 +305,8 @@ final class DirectionEdges {
             levels(1, "2 1 2", NUM, R, NUM);
             levels(1, "2 1", NUM, GAP);
             levels(0, "0 2", ER, NUM);
-            levels(0, "1" + " 2".repeat(39), behind(row(R), of(39, NUM)));
-            levels(1, "2" + " 2".repeat(39), of(40, NUM));
+            levels(0, "1" + " 2".repeat(39), behind(Due.row(R), Due.of(39, NUM)));
+            levels(1, "2" + " 2".repeat(39), Due.of(40, NUM));
         });
     }
 
@@ -331,9 +320,9 @@ final class DirectionEdges {
                     levels(0, "1 1 1 1 1 0", R, IN, OUT2, R, OUT, L);
                     levels(0, "1 1 1 1 1 0 0", R, IN, R, OUT, R, OUT, L);
                     // As many as a text has room for.
-                    int[] ins = behind(row(R), of(19, IN));
-                    levels(0, "1" + " 1".repeat(39), behind(behind(ins, R), of(19, OUT)));
-                    levels(0, "1" + " 1".repeat(38) + " 0", behind(behind(ins, R), of(19, OUT, OUT2)));
+                    int[] ins = behind(Due.row(R), Due.of(19, IN));
+                    levels(0, "1" + " 1".repeat(39), behind(behind(ins, R), Due.of(19, OUT)));
+                    levels(0, "1" + " 1".repeat(38) + " 0", behind(behind(ins, R), Due.of(19, OUT, OUT2)));
                 });
     }
 
@@ -431,9 +420,9 @@ final class DirectionEdges {
                     levels(1, "2 1 1", L, GAP, R);
                     levels(1, "1 1 2", R, GAP, L);
                     levels(0, "1 1 1", R, POP, R);
-                    levels(0, "1" + " 1".repeat(39), behind(row(R), of(39, GAP, R)));
-                    levels(1, "2" + " 2".repeat(39), behind(row(L), of(39, GAP, L)));
-                    levels(1, "2" + " 1".repeat(39), behind(row(L), of(39, GAP, R)));
+                    levels(0, "1" + " 1".repeat(39), behind(Due.row(R), Due.of(39, GAP, R)));
+                    levels(1, "2" + " 2".repeat(39), behind(Due.row(L), Due.of(39, GAP, L)));
+                    levels(1, "2" + " 1".repeat(39), behind(Due.row(L), Due.of(39, GAP, R)));
                 });
         Said.so("Directions", "numbers being right, the way of the level at both ends", () -> {
             levels(0, "1 2 1 1", R, NUM, GAP, R);
@@ -481,15 +470,15 @@ final class DirectionEdges {
                     for (int i = 38; i >= 0; i--) {
                         turned.append(' ').append(i);
                     }
-                    screen(0, turned.toString(), of(40, R));
-                    screen(N, turned.toString(), of(40, GAP, R));
+                    screen(0, turned.toString(), Due.of(40, R));
+                    screen(N, turned.toString(), Due.of(40, GAP, R));
                 });
     }
 
     private static void asked() {
         Said.so("20", "Returns the level of a letter.", () -> {
             LetterTables x = Directed.table();
-            Due.write(x, 5, of(40, GAP, R));
+            Due.write(x, 5, Due.of(40, GAP, R));
             Due.is("the first", 1, () -> x.level(5, 0, N));
             Due.is("the last", 1, () -> x.level(5, 39, N));
             Due.is("the last but one by 0", 0, () -> x.level(5, 38, 0));
@@ -564,10 +553,10 @@ final class DirectionEdges {
             sight(y, 0, N, 1);
         });
         Said.so("22", "Returns its place in the text", () -> {
-            LetterTables x = marked(of(40, L));
+            LetterTables x = marked(Due.of(40, L));
             sight(x, 0, 1, N);
             sight(x, 39, N, 38);
-            LetterTables y = marked(of(40, R));
+            LetterTables y = marked(Due.of(40, R));
             sight(y, 0, N, 1);
             sight(y, 39, 38, N);
         });

@@ -1,3 +1,5 @@
+import java.util.Arrays;
+
 /** What the tests share: answers that are due, texts and tapes made shortly. */
 final class Due {
     interface Call {
@@ -81,6 +83,18 @@ final class Due {
         for (int letter : letters) {
             x.put(slot, letter);
         }
+    }
+
+    static int[] row(int... letters) {
+        return letters;
+    }
+
+    /** A text of so many letters, of which only the last ones are others. */
+    static int[] of(int size, int letter, int... last) {
+        int[] all = new int[size];
+        Arrays.fill(all, letter);
+        System.arraycopy(last, 0, all, size - last.length, last.length);
+        return all;
     }
 
     static String read(LetterTables x, int slot) {

@@ -1,5 +1,3 @@
-import java.util.Arrays;
-
 /** The sentences of 'Normal forms', and what the promises 14 to 18 add to them. */
 final class FormEdges {
     private static final int N = LetterTables.NONE;
@@ -42,13 +40,6 @@ final class FormEdges {
         return x;
     }
 
-    private static int[] of(int size, int letter, int... last) {
-        int[] all = new int[size];
-        Arrays.fill(all, letter);
-        System.arraycopy(last, 0, all, size - last.length, last.length);
-        return all;
-    }
-
     // ---- promises 14 to 16
 
     private static void puts() {
@@ -69,7 +60,7 @@ final class FormEdges {
         });
         Said.so("14", "Throws IllegalStateException if it has 40", () -> {
             LetterTables x = new LetterTables();
-            Due.write(x, 2, of(40, 7));
+            Due.write(x, 2, Due.of(40, 7));
             Due.thrown("a 41st", Due.STATE, () -> x.put(2, 8));
             Due.thrown("again", Due.STATE, () -> x.put(2, 8));
             Due.thrown("a letter that there is not, ahead of that", Due.INDEX, () -> x.put(2, 96));
@@ -91,14 +82,14 @@ final class FormEdges {
         Said.so("15", "Returns how many letters it had.", () -> {
             for (int size : new int[] {0, 1, 39, 40}) {
                 LetterTables x = new LetterTables();
-                Due.write(x, 0, of(size, 3));
+                Due.write(x, 0, Due.of(size, 3));
                 Due.is("size " + size, size, () -> x.clear(0));
                 Due.is("then empty", 0, () -> x.clear(0));
             }
         });
         Said.so("16", "Returns a letter of a text", () -> {
             LetterTables x = new LetterTables();
-            Due.write(x, 0, of(40, 5, 95));
+            Due.write(x, 0, Due.of(40, 5, 95));
             Due.is("the first", 5, () -> x.at(0, 0));
             Due.is("the last", 95, () -> x.at(0, 39));
             Due.thrown("behind the last", Due.INDEX, () -> x.at(0, 40));
@@ -109,7 +100,7 @@ final class FormEdges {
         Said.so("16", "with NONE as its place how many it has", () -> {
             for (int size : new int[] {0, 1, 40}) {
                 LetterTables x = new LetterTables();
-                Due.write(x, 5, of(size, 3));
+                Due.write(x, 5, Due.of(size, 3));
                 Due.is("size", size, () -> x.at(5, N));
                 Due.thrown("no slot", Due.INDEX, () -> x.at(6, N));
             }
@@ -159,7 +150,7 @@ final class FormEdges {
                             21);
                     form("alike ones in their order", x, 0, "31 21 39 29", 39, 29, 31, 21);
                     form("0 between", x, 0, "29 5 21", 29, 5, 21);
-                    Due.write(x, 0, of(40, 29, 21));
+                    Due.write(x, 0, Due.of(40, 29, 21));
                     Due.is("40 of them", 40, () -> x.form(0, 0, 1));
                     Due.same("from the very end", "21" + " 29".repeat(39), Due.read(x, 1));
                 });
@@ -175,7 +166,7 @@ final class FormEdges {
             form("one that splits comes back", x, 1, "50", 50);
             form("the first letter joins nothing", x, 1, "21 5", 21, 5);
             form("the second one does", x, 1, "50", 5, 21);
-            form("the last one of 40 does", x, 1, "7 ".repeat(38) + "50", of(40, 7, 5, 21));
+            form("the last one of 40 does", x, 1, "7 ".repeat(38) + "50", Due.of(40, 7, 5, 21));
         });
         Said.so("Normal forms", "with s the last letter ahead, by then, that has the joining class 0", () -> {
             LetterTables x = marked();
@@ -254,7 +245,7 @@ final class FormEdges {
                     form("a capital form that goes", x, 2, "", 21);
                     x.capital(22, 1, N);
                     form("a mark with a capital form that stays", x, 2, "1", 22);
-                    Due.write(x, 0, of(40, 29, 5));
+                    Due.write(x, 0, Due.of(40, 29, 5));
                     Due.is("39 that go", 1, () -> x.form(0, 2, 1));
                 });
     }
@@ -291,20 +282,20 @@ final class FormEdges {
             x.split(7, 6, 5);
             x.split(48, 5, 21);
             x.split(49, 48, 1);
-            int[] just = of(40, 6);
-            int[] more = of(40, 6, 7);
+            int[] just = Due.of(40, 6);
+            int[] more = Due.of(40, 6, 7);
             Due.is("split, 80", 1, () -> lookable(x, just));
             Due.thrown("split, 81", Due.STATE, () -> lookable(x, more));
             Due.is("key of an empty text", 2, () -> x.key(0, 0, N));
             Due.thrown("key, 81", Due.STATE, () -> x.key(0, 3, N));
             Due.thrown("compare, 81", Due.STATE, () -> x.compare(0, 3, 0));
             Due.thrown("compare, 81 as the other", Due.STATE, () -> x.compare(0, 0, 3));
-            Due.write(x, 3, of(40, 6));
+            Due.write(x, 3, Due.of(40, 6));
             Due.is("key, 80", 2, () -> x.key(0, 3, N));
             Due.is("compare, 80", 0, () -> x.compare(0, 3, 0));
-            Due.write(x, 0, of(40, 48));
+            Due.write(x, 0, Due.of(40, 48));
             Due.is("joined, 80 on the way", 40, () -> x.form(0, 1, 1));
-            Due.write(x, 0, of(40, 48, 49));
+            Due.write(x, 0, Due.of(40, 48, 49));
             Due.thrown("joined, 81 on the way", Due.STATE, () -> x.form(0, 1, 1));
             Due.same("the target stays", "48" + " 48".repeat(39), Due.read(x, 1));
         });
@@ -333,14 +324,14 @@ final class FormEdges {
             LetterTables x = new LetterTables();
             x.split(6, 5, 5);
             x.letter(1, 0, LetterTables.NEUTRAL, LetterTables.OTHER, 6);
-            Due.is("looks, split again: 80", 1, () -> lookable(x, of(40, 1)));
+            Due.is("looks, split again: 80", 1, () -> lookable(x, Due.of(40, 1)));
             x.split(2, 1, 1);
-            Due.thrown("looks, split again: 82", Due.STATE, () -> lookable(x, of(40, 1, 2)));
+            Due.thrown("looks, split again: 82", Due.STATE, () -> lookable(x, Due.of(40, 1, 2)));
             x.letter(1, 0, LetterTables.NEUTRAL, LetterTables.OTHER, 1);
-            Due.is("split, looks: 41", 1, () -> lookable(x, of(40, 1, 2)));
+            Due.is("split, looks: 41", 1, () -> lookable(x, Due.of(40, 1, 2)));
             x.letter(5, 0, LetterTables.NEUTRAL, LetterTables.OTHER, 6);
-            Due.is("split, looks, split again: 80", 1, () -> lookable(x, of(20, 6)));
-            Due.thrown("split, looks, split again: 82", Due.STATE, () -> lookable(x, of(21, 6, 5)));
+            Due.is("split, looks, split again: 80", 1, () -> lookable(x, Due.of(20, 6)));
+            Due.thrown("split, looks, split again: 82", Due.STATE, () -> lookable(x, Due.of(21, 6, 5)));
         });
     }
 
@@ -352,20 +343,20 @@ final class FormEdges {
             x.capital(1, 48, N);
             x.capital(2, 49, N);
             x.capital(3, 21, 21);
-            Due.write(x, 0, of(40, 1));
+            Due.write(x, 0, Due.of(40, 1));
             Due.is("folded: 80, which all go", 0, () -> x.form(0, 2, 1));
-            Due.write(x, 0, of(40, 1, 2));
+            Due.write(x, 0, Due.of(40, 1, 2));
             Due.thrown("folded: 81, which would all go", Due.STATE, () -> x.form(0, 2, 1));
-            Due.write(x, 0, of(40, 3));
+            Due.write(x, 0, Due.of(40, 3));
             Due.is("folded: capitals are 80", 0, () -> x.form(0, 2, 1));
             Due.is("find: 80", N, () -> x.find(0, 5, 0));
             x.capital(3, 21, 48);
             Due.thrown("folded: 120", Due.STATE, () -> x.form(0, 2, 1));
-            Due.write(x, 0, of(27, 3, 5, 5));
+            Due.write(x, 0, Due.of(27, 3, 5, 5));
             Due.is("folded: 77", 2, () -> x.form(0, 2, 1));
-            Due.write(x, 0, of(29, 3, 5, 5, 5, 5));
+            Due.write(x, 0, Due.of(29, 3, 5, 5, 5, 5));
             Due.is("folded: 79", 4, () -> x.form(0, 2, 1));
-            Due.write(x, 0, of(30, 3, 5, 5, 5, 5, 5));
+            Due.write(x, 0, Due.of(30, 3, 5, 5, 5, 5, 5));
             Due.is("folded: 80", 5, () -> x.form(0, 2, 1));
             x.put(0, 5);
             Due.thrown("folded: 81", Due.STATE, () -> x.form(0, 2, 1));
@@ -374,9 +365,9 @@ final class FormEdges {
             x.split(90, 89, 89);
             x.split(91, 90, 89);
             x.capital(90, 5, N);
-            Due.write(x, 0, of(40, 91));
+            Due.write(x, 0, Due.of(40, 91));
             Due.thrown("folded: the split without a capital", Due.STATE, () -> x.form(0, 2, 1));
-            Due.write(x, 0, of(40, 90));
+            Due.write(x, 0, Due.of(40, 90));
             Due.is("folded: only the capital is split", 40, () -> x.form(0, 2, 1));
         });
     }
@@ -400,7 +391,7 @@ final class FormEdges {
             LetterTables x = new LetterTables();
             x.split(50, 5, 6);
             Due.write(x, 0, 50, 7);
-            Due.write(x, 5, of(40, 9));
+            Due.write(x, 5, Due.of(40, 9));
             Due.is("into a full one", 3, () -> x.form(0, 0, 5));
             Due.same("instead of what was there", "5 6 7", Due.read(x, 5));
             Due.same("the text stays", "50 7", Due.read(x, 0));
@@ -416,7 +407,7 @@ final class FormEdges {
                 int which = form;
                 LetterTables x = new LetterTables();
                 Due.is("none", 0, () -> x.form(0, which, 1));
-                Due.write(x, 0, of(40, 3));
+                Due.write(x, 0, Due.of(40, 3));
                 Due.is("40", 40, () -> x.form(0, which, 1));
                 Due.is("40", 40, () -> x.at(1, N));
             }
@@ -433,9 +424,9 @@ final class FormEdges {
                 x.letter(1, 0, LetterTables.NEUTRAL, LetterTables.OTHER, form == 3 ? 6 : 1);
                 int grows = form == 0 ? 6 : 1;
                 Due.write(x, 1, 9);
-                Due.write(x, 0, of(39, 3, grows));
+                Due.write(x, 0, Due.of(39, 3, grows));
                 Due.is("40, form " + form, form == 1 ? 39 : 40, () -> x.form(0, which, 2));
-                Due.write(x, 0, of(39, 3, grows, grows));
+                Due.write(x, 0, Due.of(39, 3, grows, grows));
                 if (which != 1) {
                     Due.thrown("41, form " + form, Due.STATE, () -> x.form(0, which, 1));
                     Due.thrown("no such form ahead of that", Due.ARGUMENT, () -> x.form(0, 4, 1));
@@ -451,7 +442,7 @@ final class FormEdges {
             LetterTables x = marked();
             // It splits into a mark and a letter, which nothing joins.
             x.split(49, 21, 5);
-            Due.write(x, 0, of(20, 49));
+            Due.write(x, 0, Due.of(20, 49));
             Due.is("joined, 40 in the end", 40, () -> x.form(0, 1, 1));
             x.put(0, 5);
             Due.thrown("joined, 41 in the end", Due.STATE, () -> x.form(0, 1, 1));
@@ -467,24 +458,24 @@ final class FormEdges {
             Due.is("one is empty", 0, () -> alike(x, 0, 1));
             Due.is("the other one is empty", 0, () -> alike(x, 1, 0));
             Due.is("one and the same", 1, () -> alike(x, 0, 0));
-            Due.write(x, 1, of(40, 3));
-            Due.write(x, 2, of(40, 3, 4));
+            Due.write(x, 1, Due.of(40, 3));
+            Due.write(x, 2, Due.of(40, 3, 4));
             Due.is("the last of 40 is another", 0, () -> alike(x, 1, 2));
             x.letter(4, 0, LetterTables.NEUTRAL, LetterTables.OTHER, 3);
             Due.is("and looks like it", 1, () -> alike(x, 1, 2));
-            Due.write(x, 2, of(39, 3));
+            Due.write(x, 2, Due.of(39, 3));
             Due.is("one less", 0, () -> alike(x, 1, 2));
             Due.is("one more", 0, () -> alike(x, 2, 1));
             x.split(9, 3, 3);
-            Due.write(x, 1, of(40, 9));
-            Due.write(x, 2, of(40, 9));
+            Due.write(x, 1, Due.of(40, 9));
+            Due.write(x, 2, Due.of(40, 9));
             Due.is("80 letters", 1, () -> alike(x, 1, 2));
         });
         Said.so("18", "Throws IllegalStateException if one cannot be looked at so", () -> {
             LetterTables x = new LetterTables();
             x.split(9, 3, 3);
             x.split(10, 9, 3);
-            Due.write(x, 1, of(40, 9, 10));
+            Due.write(x, 1, Due.of(40, 9, 10));
             Due.thrown("one", Due.STATE, () -> alike(x, 1, 0));
             Due.thrown("the other", Due.STATE, () -> alike(x, 0, 1));
             Due.thrown("both", Due.STATE, () -> alike(x, 1, 1));

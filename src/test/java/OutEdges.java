@@ -25,17 +25,6 @@ final class OutEdges {
         decodesWrong();
     }
 
-    private static int[] row(int... letters) {
-        return letters;
-    }
-
-    private static int[] of(int size, int letter, int... last) {
-        int[] all = new int[size];
-        Arrays.fill(all, letter);
-        System.arraycopy(last, 0, all, size - last.length, last.length);
-        return all;
-    }
-
     private static int rule(LetterTables x, int pass, int[] ahead, int[] source, int[] behind, int[] target) {
         Due.write(x, 2, ahead);
         Due.write(x, 3, source);
@@ -56,41 +45,41 @@ final class OutEdges {
     private static void ruleRows() {
         Said.so("Transliteration", "what has to stand ahead, 0 to 2", () -> {
             LetterTables x = new LetterTables();
-            rule(x, 0, row(1, 2), row(9), row(), row(8));
+            rule(x, 0, Due.row(1, 2), Due.row(9), Due.row(), Due.row(8));
             goes(x, false, "1 2 8", 1, 2, 9);
             goes(x, false, "2 9", 2, 9);
             goes(x, false, "2 1 9", 2, 1, 9);
             goes(x, false, "9", 9);
-            Due.thrown("3", Due.STATE, () -> rule(x, 0, row(1, 2, 3), row(9), row(), row(8)));
-            Due.is("0", 2, () -> rule(x, 0, row(), row(9), row(), row(7)));
+            Due.thrown("3", Due.STATE, () -> rule(x, 0, Due.row(1, 2, 3), Due.row(9), Due.row(), Due.row(8)));
+            Due.is("0", 2, () -> rule(x, 0, Due.row(), Due.row(9), Due.row(), Due.row(7)));
             goes(x, false, "7 1 2 8", 9, 1, 2, 9);
         });
         Said.so("Transliteration", "the source, 1 to 3", () -> {
             LetterTables x = new LetterTables();
-            Due.thrown("0", Due.STATE, () -> rule(x, 0, row(), row(), row(), row(8)));
-            Due.thrown("4", Due.STATE, () -> rule(x, 0, row(), row(1, 2, 3, 4), row(), row(8)));
-            Due.is("3", 1, () -> rule(x, 0, row(), row(1, 2, 3), row(), row(8)));
-            Due.is("1", 2, () -> rule(x, 0, row(), row(1), row(), row(7)));
+            Due.thrown("0", Due.STATE, () -> rule(x, 0, Due.row(), Due.row(), Due.row(), Due.row(8)));
+            Due.thrown("4", Due.STATE, () -> rule(x, 0, Due.row(), Due.row(1, 2, 3, 4), Due.row(), Due.row(8)));
+            Due.is("3", 1, () -> rule(x, 0, Due.row(), Due.row(1, 2, 3), Due.row(), Due.row(8)));
+            Due.is("1", 2, () -> rule(x, 0, Due.row(), Due.row(1), Due.row(), Due.row(7)));
             goes(x, false, "8", 1, 2, 3);
             goes(x, false, "7 2", 1, 2);
             goes(x, false, "7 7 2 4", 1, 1, 2, 4);
         });
         Said.so("Transliteration", "what has to stand behind, 0 to 2", () -> {
             LetterTables x = new LetterTables();
-            rule(x, 0, row(), row(9), row(1, 2), row(8));
+            rule(x, 0, Due.row(), Due.row(9), Due.row(1, 2), Due.row(8));
             goes(x, false, "8 1 2", 9, 1, 2);
             goes(x, false, "9 1", 9, 1);
             goes(x, false, "9 2 1", 9, 2, 1);
             goes(x, false, "9", 9);
-            Due.thrown("3", Due.STATE, () -> rule(x, 0, row(), row(9), row(1, 2, 3), row(8)));
-            Due.is("0", 2, () -> rule(x, 0, row(), row(9), row(), row(7)));
+            Due.thrown("3", Due.STATE, () -> rule(x, 0, Due.row(), Due.row(9), Due.row(1, 2, 3), Due.row(8)));
+            Due.is("0", 2, () -> rule(x, 0, Due.row(), Due.row(9), Due.row(), Due.row(7)));
             goes(x, false, "8 1 2 7", 9, 1, 2, 9);
         });
         Said.so("Transliteration", "and the target, 0 to 3", () -> {
             LetterTables x = new LetterTables();
-            Due.thrown("4", Due.STATE, () -> rule(x, 0, row(), row(9), row(), row(1, 2, 3, 4)));
-            Due.is("3", 1, () -> rule(x, 0, row(), row(9), row(), row(1, 2, 3)));
-            Due.is("0", 2, () -> rule(x, 0, row(), row(8), row(), row()));
+            Due.thrown("4", Due.STATE, () -> rule(x, 0, Due.row(), Due.row(9), Due.row(), Due.row(1, 2, 3, 4)));
+            Due.is("3", 1, () -> rule(x, 0, Due.row(), Due.row(9), Due.row(), Due.row(1, 2, 3)));
+            Due.is("0", 2, () -> rule(x, 0, Due.row(), Due.row(8), Due.row(), Due.row()));
             goes(x, false, "1 2 3 1 2 3", 8, 9, 8, 9);
             goes(x, false, "", 8);
         });
@@ -98,9 +87,9 @@ final class OutEdges {
             LetterTables x = new LetterTables();
             for (int i = 1; i <= 8; i++) {
                 int count = i;
-                Due.is("rule " + i, count, () -> rule(x, count % 2, row(), row(count), row(), row(count + 10)));
+                Due.is("rule " + i, count, () -> rule(x, count % 2, Due.row(), Due.row(count), Due.row(), Due.row(count + 10)));
             }
-            Due.thrown("a ninth", Due.STATE, () -> rule(x, 0, row(), row(9), row(), row(19)));
+            Due.thrown("a ninth", Due.STATE, () -> rule(x, 0, Due.row(), Due.row(9), Due.row(), Due.row(19)));
             goes(x, false, "11 18 9", 1, 8, 9);
         });
     }
@@ -108,29 +97,29 @@ final class OutEdges {
     private static void rules() {
         Said.so("Transliteration", "A rule has a pass, 0 or 1", () -> {
             LetterTables x = new LetterTables();
-            rule(x, 1, row(), row(1), row(), row(2));
-            rule(x, 0, row(), row(2), row(), row(1));
+            rule(x, 1, Due.row(), Due.row(1), Due.row(), Due.row(2));
+            rule(x, 0, Due.row(), Due.row(2), Due.row(), Due.row(1));
             goes(x, false, "2 2", 1, 2);
             goes(x, true, "2 2", 1, 2);
-            Due.thrown("2", Due.ARGUMENT, () -> rule(x, 2, row(), row(1), row(), row(2)));
-            Due.thrown("-1", Due.ARGUMENT, () -> rule(x, -1, row(), row(1), row(), row(2)));
+            Due.thrown("2", Due.ARGUMENT, () -> rule(x, 2, Due.row(), Due.row(1), Due.row(), Due.row(2)));
+            Due.thrown("-1", Due.ARGUMENT, () -> rule(x, -1, Due.row(), Due.row(1), Due.row(), Due.row(2)));
         });
         Said.so("Transliteration", "A pass goes from the left: the first rule of it, whose source stands there", () -> {
             LetterTables x = new LetterTables();
-            rule(x, 1, row(), row(5), row(), row(6));
-            rule(x, 0, row(), row(1), row(), row(7));
-            rule(x, 0, row(), row(1, 2), row(), row(8));
-            rule(x, 0, row(), row(2, 2), row(), row(9));
+            rule(x, 1, Due.row(), Due.row(5), Due.row(), Due.row(6));
+            rule(x, 0, Due.row(), Due.row(1), Due.row(), Due.row(7));
+            rule(x, 0, Due.row(), Due.row(1, 2), Due.row(), Due.row(8));
+            rule(x, 0, Due.row(), Due.row(2, 2), Due.row(), Due.row(9));
             goes(x, false, "7 2", 1, 2);
             goes(x, false, "9 2", 2, 2, 2);
             goes(x, false, "7 9 6", 1, 2, 2, 5);
         });
         Said.so("Transliteration", "puts its target out, and one goes on behind the source", () -> {
             LetterTables x = new LetterTables();
-            rule(x, 0, row(), row(1, 1), row(), row(1));
+            rule(x, 0, Due.row(), Due.row(1, 1), Due.row(), Due.row(1));
             goes(x, false, "1 1", 1, 1, 1);
             goes(x, false, "1 1", 1, 1, 1, 1);
-            rule(x, 0, row(), row(3), row(), row(3, 3));
+            rule(x, 0, Due.row(), Due.row(3), Due.row(), Due.row(3, 3));
             goes(x, false, "3 3 3 3", 3, 3);
         });
         Said.so("Transliteration", "otherwise the letter is put out", () -> {
@@ -138,9 +127,9 @@ final class OutEdges {
             goes(x, false, "0 95", 0, 95);
             goes(x, false, "");
             goes(x, true, "");
-            rule(x, 0, row(), row(1), row(), row(2));
+            rule(x, 0, Due.row(), Due.row(1), Due.row(), Due.row(2));
             goes(x, false, "0 2 95", 0, 1, 95);
-            Due.write(x, 0, of(40, 7));
+            Due.write(x, 0, Due.of(40, 7));
             Due.is("40", 40, () -> x.transliterate(0, 0, false));
         });
     }
@@ -149,10 +138,10 @@ final class OutEdges {
         Said.so("Transliteration", "whose row ahead ends what has come out so far, and whose row behind stands behind the"
                 + " source", () -> {
                     LetterTables x = new LetterTables();
-                    rule(x, 0, row(), row(1), row(), row(2));
-                    rule(x, 0, row(2), row(3), row(), row(4));
-                    rule(x, 0, row(), row(5), row(1), row(6));
-                    rule(x, 0, row(2, 2), row(7), row(1, 1), row(8));
+                    rule(x, 0, Due.row(), Due.row(1), Due.row(), Due.row(2));
+                    rule(x, 0, Due.row(2), Due.row(3), Due.row(), Due.row(4));
+                    rule(x, 0, Due.row(), Due.row(5), Due.row(1), Due.row(6));
+                    rule(x, 0, Due.row(2, 2), Due.row(7), Due.row(1, 1), Due.row(8));
                     // Ahead: what has come out, not what stood there.
                     goes(x, false, "2 4", 1, 3);
                     goes(x, false, "2 4", 2, 3);
@@ -165,7 +154,7 @@ final class OutEdges {
                     goes(x, false, "2 2 7 2", 1, 2, 7, 1);
                     goes(x, false, "2 7 2 2", 2, 7, 1, 1);
                     LetterTables y = new LetterTables();
-                    rule(y, 0, row(1, 2), row(3, 4, 5), row(6, 7), row(8, 9, 10));
+                    rule(y, 0, Due.row(1, 2), Due.row(3, 4, 5), Due.row(6, 7), Due.row(8, 9, 10));
                     goes(y, false, "1 2 8 9 10 6 7", 1, 2, 3, 4, 5, 6, 7);
                     goes(y, false, "2 3 4 5 6 7", 2, 3, 4, 5, 6, 7);
                     goes(y, false, "1 2 3 4 5 6", 1, 2, 3, 4, 5, 6);
@@ -176,11 +165,11 @@ final class OutEdges {
     private static void passes() {
         Said.so("Transliteration", "The passes are done one after the other.", () -> {
             LetterTables x = new LetterTables();
-            rule(x, 1, row(), row(2), row(), row(3));
-            rule(x, 0, row(), row(1), row(), row(2));
+            rule(x, 1, Due.row(), Due.row(2), Due.row(), Due.row(3));
+            rule(x, 0, Due.row(), Due.row(1), Due.row(), Due.row(2));
             goes(x, false, "3 3", 1, 2);
-            rule(x, 0, row(), row(4), row(), row());
-            rule(x, 1, row(), row(3, 3), row(), row(5));
+            rule(x, 0, Due.row(), Due.row(4), Due.row(), Due.row());
+            rule(x, 1, Due.row(), Due.row(3, 3), Due.row(), Due.row(5));
             // What has come out of the first pass stands side by side in the second one.
             goes(x, false, "5", 3, 4, 3);
         });
@@ -190,18 +179,18 @@ final class OutEdges {
         Said.so("Transliteration", "Back the passes are done the other way round, with target and source exchanged, rules"
                 + " without a target left out.", () -> {
                     LetterTables x = new LetterTables();
-                    rule(x, 0, row(), row(1), row(), row(2));
-                    rule(x, 1, row(), row(2), row(), row(3));
+                    rule(x, 0, Due.row(), Due.row(1), Due.row(), Due.row(2));
+                    rule(x, 1, Due.row(), Due.row(2), Due.row(), Due.row(3));
                     goes(x, true, "1 1 1", 3, 2, 1);
-                    rule(x, 0, row(), row(7), row(), row());
-                    rule(x, 1, row(), row(8), row(), row());
+                    rule(x, 0, Due.row(), Due.row(7), Due.row(), Due.row());
+                    rule(x, 1, Due.row(), Due.row(8), Due.row(), Due.row());
                     goes(x, true, "7 8 1", 7, 8, 3);
                     goes(x, true, "");
                     LetterTables y = new LetterTables();
-                    rule(y, 0, row(), row(4, 5, 6), row(), row(1));
-                    rule(y, 0, row(), row(9), row(), row(1, 2, 3));
+                    rule(y, 0, Due.row(), Due.row(4, 5, 6), Due.row(), Due.row(1));
+                    rule(y, 0, Due.row(), Due.row(9), Due.row(), Due.row(1, 2, 3));
                     goes(y, true, "4 5 6 2 3", 1, 2, 3);
-                    rule(y, 1, row(5), row(7), row(8), row(1));
+                    rule(y, 1, Due.row(5), Due.row(7), Due.row(8), Due.row(1));
                     // Ahead and behind stay what they are: what has come out, and what stands there.
                     goes(y, true, "5 7 8", 5, 1, 8);
                     goes(y, true, "8 4 5 6 5", 8, 1, 5);
@@ -212,10 +201,10 @@ final class OutEdges {
     private static void transliterates() {
         Said.so("30", "Transliterates a text into a slot.", () -> {
             LetterTables x = new LetterTables();
-            rule(x, 0, row(), row(1), row(), row(2, 2));
+            rule(x, 0, Due.row(), Due.row(1), Due.row(), Due.row(2, 2));
             Due.write(x, 0, 1, 1);
             Due.is("into a full one", 4, () -> {
-                Due.write(x, 5, of(40, 9));
+                Due.write(x, 5, Due.of(40, 9));
                 return x.transliterate(0, 5, false);
             });
             Due.same("instead of what was there", "2 2 2 2", Due.read(x, 5));
@@ -230,12 +219,12 @@ final class OutEdges {
         });
         Said.so("30", "Returns how many letters come of it.", () -> {
             LetterTables x = new LetterTables();
-            rule(x, 0, row(), row(1), row(), row(2, 2, 2));
-            rule(x, 0, row(), row(3), row(), row());
-            Due.write(x, 0, of(14, 1, 3));
+            rule(x, 0, Due.row(), Due.row(1), Due.row(), Due.row(2, 2, 2));
+            rule(x, 0, Due.row(), Due.row(3), Due.row(), Due.row());
+            Due.write(x, 0, Due.of(14, 1, 3));
             Due.is("39", 39, () -> x.transliterate(0, 1, false));
             Due.is("13", 13, () -> x.transliterate(1, 1, true));
-            Due.write(x, 0, of(40, 3));
+            Due.write(x, 0, Due.of(40, 3));
             Due.is("0", 0, () -> x.transliterate(0, 1, false));
             Due.is("40", 40, () -> x.transliterate(0, 1, true));
         });
@@ -246,16 +235,16 @@ final class OutEdges {
             for (int pass = 0; pass < 2; pass++) {
                 for (boolean isBack : new boolean[] {false, true}) {
                     LetterTables x = new LetterTables();
-                    rule(x, pass, row(), isBack ? row(2, 2, 2) : row(1), row(), isBack ? row(1) : row(2, 2, 2));
+                    rule(x, pass, Due.row(), isBack ? Due.row(2, 2, 2) : Due.row(1), Due.row(), isBack ? Due.row(1) : Due.row(2, 2, 2));
                     Due.write(x, 1, 9);
-                    Due.write(x, 0, of(14, 1));
+                    Due.write(x, 0, Due.of(14, 1));
                     Due.thrown("42", Due.STATE, () -> x.transliterate(0, 1, isBack));
                     Due.thrown("42 into itself", Due.STATE, () -> x.transliterate(0, 0, isBack));
-                    Due.write(x, 0, of(15, 1, 7, 7));
+                    Due.write(x, 0, Due.of(15, 1, 7, 7));
                     Due.thrown("41", Due.STATE, () -> x.transliterate(0, 1, isBack));
                     Due.same("the target stays", "9", Due.read(x, 1));
                     Due.is("the text stays", 15, () -> x.at(0, N));
-                    Due.write(x, 0, of(14, 1, 7));
+                    Due.write(x, 0, Due.of(14, 1, 7));
                     Due.is("40", 40, () -> x.transliterate(0, 1, isBack));
                     Due.thrown("no slot ahead of that", Due.INDEX, () -> x.transliterate(6, 1, isBack));
                     Due.thrown("no slot ahead of that", Due.INDEX, () -> x.transliterate(0, -1, isBack));
@@ -263,13 +252,13 @@ final class OutEdges {
             }
             // Even if the other pass would take letters away again.
             LetterTables x = new LetterTables();
-            rule(x, 0, row(), row(1), row(), row(2, 2, 2));
-            rule(x, 1, row(), row(2), row(), row());
-            Due.write(x, 0, of(14, 1));
+            rule(x, 0, Due.row(), Due.row(1), Due.row(), Due.row(2, 2, 2));
+            rule(x, 1, Due.row(), Due.row(2), Due.row(), Due.row());
+            Due.write(x, 0, Due.of(14, 1));
             Due.thrown("42, then none", Due.STATE, () -> x.transliterate(0, 1, false));
-            Due.write(x, 0, of(13, 1));
+            Due.write(x, 0, Due.of(13, 1));
             Due.is("39, then none", 0, () -> x.transliterate(0, 1, false));
-            Due.write(x, 0, of(40, 7, 1, 3, 3));
+            Due.write(x, 0, Due.of(40, 7, 1, 3, 3));
             Due.thrown("42, though the letters behind it are few", Due.STATE, () -> x.transliterate(0, 1, false));
         });
     }
@@ -309,7 +298,7 @@ final class OutEdges {
                         }
                     }
                     for (int letter = 0; letter < 96; letter++) {
-                        encoded(letter < 64 ? row(letter + 32) : row(14, letter - 32, 15), letter);
+                        encoded(letter < 64 ? Due.row(letter + 32) : Due.row(14, letter - 32, 15), letter);
                     }
                 });
         Said.so("Encoding", "What is no letter when it is decoded is the letter 0, and an error", () -> {
@@ -331,14 +320,14 @@ final class OutEdges {
             decoded(0, "", 14, 15);
         });
         Said.so("Encoding", "a text begins and ends in the state 0, and is encoded with as few bytes as can be", () -> {
-            encoded(row());
-            encoded(row(32), 0);
-            encoded(row(95), 63);
-            encoded(row(14, 32, 15), 64);
-            encoded(row(14, 63, 63, 15), 95, 95);
-            encoded(row(14, 32, 15, 95), 64, 63);
-            encoded(row(95, 14, 32, 15), 63, 64);
-            encoded(row(14, 32, 15, 32, 14, 32, 15), 64, 0, 64);
+            encoded(Due.row());
+            encoded(Due.row(32), 0);
+            encoded(Due.row(95), 63);
+            encoded(Due.row(14, 32, 15), 64);
+            encoded(Due.row(14, 63, 63, 15), 95, 95);
+            encoded(Due.row(14, 32, 15, 95), 64, 63);
+            encoded(Due.row(95, 14, 32, 15), 63, 64);
+            encoded(Due.row(14, 32, 15, 32, 14, 32, 15), 64, 0, 64);
             // The state that an earlier text went to is none of the next one.
             LetterTables x = new LetterTables();
             Due.write(x, 0, 64);
@@ -402,7 +391,7 @@ final class OutEdges {
             for (int i : beyond) {
                 Due.is("of an empty out, " + i, 0, () -> x.word(i));
             }
-            Due.write(x, 0, of(40, 1));
+            Due.write(x, 0, Due.of(40, 1));
             Due.is("40 bytes", 40, () -> x.encode(0));
             Due.is("4", 0x2121212121212121L, () -> x.word(4));
             // Places at which 8 * i is one of the out again, if it is counted by an int.
@@ -411,7 +400,7 @@ final class OutEdges {
             for (int i : far) {
                 Due.is("" + i, 0, () -> x.word(i));
             }
-            Due.write(x, 0, of(7, 1));
+            Due.write(x, 0, Due.of(7, 1));
             x.encode(0);
             Due.is("7 bytes", 0x21212121212121L, () -> x.word(0));
             Due.is("none behind them", 0, () -> x.word(1));
@@ -433,11 +422,11 @@ final class OutEdges {
         Said.so("34", "Returns how many bytes the out has then.", () -> {
             LetterTables x = new LetterTables();
             Due.is("of an empty text", 0, () -> x.encode(0));
-            Due.write(x, 0, of(40, 1));
+            Due.write(x, 0, Due.of(40, 1));
             Due.is("40", 40, () -> x.encode(0));
-            Due.write(x, 0, of(40, 95));
+            Due.write(x, 0, Due.of(40, 95));
             Due.is("42", 42, () -> x.encode(0));
-            int[] text = of(40, 64);
+            int[] text = Due.of(40, 64);
             for (int i = 0; i < 40; i += 2) {
                 text[i] = 0;
             }
@@ -451,7 +440,7 @@ final class OutEdges {
     private static void decodes() {
         Said.so("35", "Decodes the tape into a slot.", () -> {
             LetterTables x = new LetterTables();
-            Due.write(x, 5, of(40, 9));
+            Due.write(x, 5, Due.of(40, 9));
             x.feed(0x2221, 2);
             Due.is("into a full one", 0, () -> x.decode(5));
             Due.same("instead of what was there", "1 2", Due.read(x, 5));

@@ -20,10 +20,6 @@ public final class OutTest {
         Due.end();
     }
 
-    private static int[] row(int... letters) {
-        return letters;
-    }
-
     private static void rule(LetterTables x, int pass, int[] ahead, int[] source, int[] behind, int[] target) {
         Due.write(x, 2, ahead);
         Due.write(x, 3, source);
@@ -44,10 +40,10 @@ public final class OutTest {
         LetterTables x = new LetterTables();
         goes(x, false, "");
         goes(x, false, "1 2 3", 1, 2, 3);
-        rule(x, 0, row(), row(1, 2), row(), row(7));
-        rule(x, 0, row(), row(1), row(), row(8, 8, 8));
-        rule(x, 0, row(), row(3, 3, 3), row(), row());
-        rule(x, 0, row(), row(1, 2, 3), row(), row(9));
+        rule(x, 0, Due.row(), Due.row(1, 2), Due.row(), Due.row(7));
+        rule(x, 0, Due.row(), Due.row(1), Due.row(), Due.row(8, 8, 8));
+        rule(x, 0, Due.row(), Due.row(3, 3, 3), Due.row(), Due.row());
+        rule(x, 0, Due.row(), Due.row(1, 2, 3), Due.row(), Due.row(9));
         goes(x, false, "7 3", 1, 2, 3);
         goes(x, false, "8 8 8 7 2", 1, 1, 2, 2);
         goes(x, false, "", 3, 3, 3);
@@ -67,11 +63,11 @@ public final class OutTest {
     private static void rulesWithContexts() {
         LetterTables x = new LetterTables();
         // What stands ahead is what has come out, what stands behind has not gone through yet.
-        rule(x, 0, row(5), row(1), row(), row(6));
-        rule(x, 0, row(), row(4), row(), row(5));
-        rule(x, 0, row(6, 6), row(2), row(), row(9));
-        rule(x, 0, row(), row(2), row(4), row(8));
-        rule(x, 0, row(8, 5), row(2), row(3, 3), row(7, 7));
+        rule(x, 0, Due.row(5), Due.row(1), Due.row(), Due.row(6));
+        rule(x, 0, Due.row(), Due.row(4), Due.row(), Due.row(5));
+        rule(x, 0, Due.row(6, 6), Due.row(2), Due.row(), Due.row(9));
+        rule(x, 0, Due.row(), Due.row(2), Due.row(4), Due.row(8));
+        rule(x, 0, Due.row(8, 5), Due.row(2), Due.row(3, 3), Due.row(7, 7));
         goes(x, false, "5 6 1", 4, 1, 1);
         goes(x, false, "1 6 2", 1, 6, 2);
         goes(x, false, "6 6 9", 6, 6, 2);
@@ -93,14 +89,14 @@ public final class OutTest {
 
     private static void passes() {
         LetterTables x = new LetterTables();
-        rule(x, 1, row(), row(2), row(), row(3));
-        rule(x, 0, row(), row(1), row(), row(2));
-        rule(x, 0, row(), row(3), row(), row(4));
+        rule(x, 1, Due.row(), Due.row(2), Due.row(), Due.row(3));
+        rule(x, 0, Due.row(), Due.row(1), Due.row(), Due.row(2));
+        rule(x, 0, Due.row(), Due.row(3), Due.row(), Due.row(4));
         goes(x, false, "3 3 4", 1, 2, 3);
         goes(x, true, "1 1 3", 2, 3, 4);
         LetterTables y = new LetterTables();
-        rule(y, 0, row(), row(1), row(), row(2, 2));
-        rule(y, 1, row(), row(2), row(), row());
+        rule(y, 0, Due.row(), Due.row(1), Due.row(), Due.row(2, 2));
+        rule(y, 1, Due.row(), Due.row(2), Due.row(), Due.row());
         goes(y, false, "5", 1, 5, 1);
         goes(y, true, "5 1", 5, 2, 2);
         goes(y, true, "2 5", 2, 5);
@@ -108,10 +104,10 @@ public final class OutTest {
 
     private static void transliterateWrong() {
         LetterTables x = new LetterTables();
-        rule(x, 0, row(), row(1), row(), row(2, 2));
-        rule(x, 1, row(), row(2), row(), row());
-        rule(x, 1, row(), row(7), row(), row(8, 8));
-        rule(x, 0, row(), row(6, 6), row(), row(9));
+        rule(x, 0, Due.row(), Due.row(1), Due.row(), Due.row(2, 2));
+        rule(x, 1, Due.row(), Due.row(2), Due.row(), Due.row());
+        rule(x, 1, Due.row(), Due.row(7), Due.row(), Due.row(8, 8));
+        rule(x, 0, Due.row(), Due.row(6, 6), Due.row(), Due.row(9));
         int[] text = new int[21];
         java.util.Arrays.fill(text, 1);
         Due.write(x, 0, text);
@@ -302,12 +298,12 @@ public final class OutTest {
 
     private static void encodes() {
         LetterTables x = new LetterTables();
-        encode(x, row());
-        encode(x, row(32, 95), 0, 63);
-        encode(x, row(14, 32, 63, 15), 64, 95);
-        encode(x, row(33, 14, 33, 34, 15, 34, 14, 35, 15), 1, 65, 66, 2, 67);
-        encode(x, row(14, 32, 15, 32), 64, 0);
-        encode(x, row(32), 0);
+        encode(x, Due.row());
+        encode(x, Due.row(32, 95), 0, 63);
+        encode(x, Due.row(14, 32, 63, 15), 64, 95);
+        encode(x, Due.row(33, 14, 33, 34, 15, 34, 14, 35, 15), 1, 65, 66, 2, 67);
+        encode(x, Due.row(14, 32, 15, 32), 64, 0);
+        encode(x, Due.row(32), 0);
         int[] text = new int[40];
         for (int i = 0; i < 40; i += 2) {
             text[i] = 70;

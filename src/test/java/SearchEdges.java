@@ -1,5 +1,3 @@
-import java.util.Arrays;
-
 /** The sentences of 'Orders' and 'Patterns', and what the promises 25 to 29 add to them. */
 final class SearchEdges {
     private static final int N = LetterTables.NONE;
@@ -22,17 +20,6 @@ final class SearchEdges {
         looks();
         often();
         matches();
-    }
-
-    private static int[] row(int... letters) {
-        return letters;
-    }
-
-    private static int[] of(int size, int letter, int... last) {
-        int[] all = new int[size];
-        Arrays.fill(all, letter);
-        System.arraycopy(last, 0, all, size - last.length, last.length);
-        return all;
     }
 
     // ---- orders
@@ -76,10 +63,10 @@ final class SearchEdges {
                 });
         Said.so("Orders", "from the left, a contraction that stands there", () -> {
             LetterTables x = contracted();
-            Due.write(x, 0, of(40, 1));
+            Due.write(x, 0, Due.of(40, 1));
             Due.same("20 contractions", "70 ".repeat(20) + "0" + " 7".repeat(20) + " 0" + " 7".repeat(20),
                     Due.key(x, 0, 0));
-            Due.write(x, 0, of(39, 1));
+            Due.write(x, 0, Due.of(39, 1));
             Due.is("19 and a letter", 62, () -> x.key(0, 0, N));
             Due.is("the letter is the last", 10, () -> x.key(0, 0, 19));
             Due.is("none in the other language", 2, () -> x.key(1, 0, N));
@@ -107,7 +94,7 @@ final class SearchEdges {
             LetterTables x = new LetterTables();
             x.split(5, 4, 4);
             x.weigh(0, 4, 99, 9, 8);
-            Due.write(x, 0, of(40, 5));
+            Due.write(x, 0, Due.of(40, 5));
             Due.is("the first of the longest one", 99, () -> x.key(0, 0, 0));
             Due.is("the last first weight", 99, () -> x.key(0, 0, 79));
             Due.is("0", 0, () -> x.key(0, 0, 80));
@@ -125,7 +112,7 @@ final class SearchEdges {
             x.split(5, 4, 4);
             x.weigh(0, 4, 99, 9, 8);
             Due.is("of an empty text", 2, () -> x.key(0, 0, N));
-            Due.write(x, 0, of(40, 5));
+            Due.write(x, 0, Due.of(40, 5));
             Due.is("of the longest one", 242, () -> x.key(0, 0, N));
             Due.is("in the other language", 2, () -> x.key(1, 0, N));
         });
@@ -133,8 +120,8 @@ final class SearchEdges {
             LetterTables x = new LetterTables();
             x.split(5, 4, 4);
             x.split(6, 5, 4);
-            Due.write(x, 0, of(40, 5, 6));
-            for (int place : row(N, 0, 241, 242, 243, -2, Integer.MAX_VALUE, Integer.MIN_VALUE)) {
+            Due.write(x, 0, Due.of(40, 5, 6));
+            for (int place : Due.row(N, 0, 241, 242, 243, -2, Integer.MAX_VALUE, Integer.MIN_VALUE)) {
                 Due.thrown("at " + place, Due.STATE, () -> x.key(1, 0, place));
             }
             Due.thrown("no language ahead of that", Due.INDEX, () -> x.key(2, 0, 0));
@@ -173,42 +160,42 @@ final class SearchEdges {
     private static void orders() {
         Said.so("Orders", "Keys are ordered number by number", () -> {
             LetterTables x = weighed();
-            compare(x, -1, row(1), row(2));
-            compare(x, -1, row(1), row(3));
-            compare(x, -1, row(2), row(3));
-            compare(x, -1, row(3), row(4));
-            compare(x, -1, row(5), row(1));
-            compare(x, -1, row(1), row(1, 20));
-            compare(x, -1, row(20), row(1));
-            compare(x, -1, row(21), row(20));
-            compare(x, -1, row(5, 5), row(4));
+            compare(x, -1, Due.row(1), Due.row(2));
+            compare(x, -1, Due.row(1), Due.row(3));
+            compare(x, -1, Due.row(2), Due.row(3));
+            compare(x, -1, Due.row(3), Due.row(4));
+            compare(x, -1, Due.row(5), Due.row(1));
+            compare(x, -1, Due.row(1), Due.row(1, 20));
+            compare(x, -1, Due.row(20), Due.row(1));
+            compare(x, -1, Due.row(21), Due.row(20));
+            compare(x, -1, Due.row(5, 5), Due.row(4));
             // The first weights go ahead of all second ones, and a key that ends there ahead of all that go on.
-            compare(x, -1, row(3), row(1, 1));
-            compare(x, -1, row(1, 3), row(1, 4));
-            compare(x, 1, row(3, 1), row(1, 20));
-            compare(x, 0, row(1, 50), row(51, 1));
-            compare(x, -1, of(40, 1), of(40, 1, 2));
-            compare(x, 1, of(40, 1), of(39, 1));
+            compare(x, -1, Due.row(3), Due.row(1, 1));
+            compare(x, -1, Due.row(1, 3), Due.row(1, 4));
+            compare(x, 1, Due.row(3, 1), Due.row(1, 20));
+            compare(x, 0, Due.row(1, 50), Due.row(51, 1));
+            compare(x, -1, Due.of(40, 1), Due.of(40, 1, 2));
+            compare(x, 1, Due.of(40, 1), Due.of(39, 1));
         });
         Said.so("Orders", "one that another one begins with ahead of it", () -> {
             LetterTables x = weighed();
-            compare(x, -1, row(), row(21));
-            compare(x, -1, row(1), row(1, 21));
-            compare(x, -1, row(1, 21), row(1, 21, 21));
-            compare(x, 0, row(), row(50));
+            compare(x, -1, Due.row(), Due.row(21));
+            compare(x, -1, Due.row(1), Due.row(1, 21));
+            compare(x, -1, Due.row(1, 21), Due.row(1, 21, 21));
+            compare(x, 0, Due.row(), Due.row(50));
         });
         Said.so("25", "Compares two texts, weight by weight, without keys.", () -> {
             LetterTables x = weighed();
             // Weights of 1 are above 0, and those of 0 are none.
             for (int i = 0; i < 3; i++) {
                 x.weigh(0, 30 + i, i == 0 ? 1 : 0, i == 1 ? 1 : 0, i == 2 ? 1 : 0);
-                compare(x, -1, row(), row(30 + i));
-                compare(x, -1, row(30 + i), row(30 + i, 30 + i));
-                compare(x, 0, row(30 + i), row(50, 30 + i, 50));
+                compare(x, -1, Due.row(), Due.row(30 + i));
+                compare(x, -1, Due.row(30 + i), Due.row(30 + i, 30 + i));
+                compare(x, 0, Due.row(30 + i), Due.row(50, 30 + i, 50));
             }
             x.split(9, 4, 4);
-            Due.write(x, 0, of(40, 9));
-            Due.write(x, 1, of(40, 9, 4));
+            Due.write(x, 0, Due.of(40, 9));
+            Due.write(x, 1, Due.of(40, 9, 4));
             Due.is("80 and 79", 1, () -> x.compare(0, 0, 1));
             Due.is("79 and 80", -1, () -> x.compare(0, 1, 0));
             Due.is("80 and 80", 0, () -> x.compare(0, 0, 0));
@@ -216,9 +203,9 @@ final class SearchEdges {
         });
         Said.so("25", "Returns -1, 0 or 1.", () -> {
             LetterTables x = weighed();
-            compare(x, -1, row(5), row(4));
-            compare(x, -1, row(), of(40, 4));
-            compare(x, 0, row(), row());
+            compare(x, -1, Due.row(5), Due.row(4));
+            compare(x, -1, Due.row(), Due.of(40, 4));
+            compare(x, 0, Due.row(), Due.row());
         });
     }
 
@@ -227,7 +214,7 @@ final class SearchEdges {
             LetterTables x = weighed();
             x.split(9, 4, 4);
             x.split(10, 9, 4);
-            Due.write(x, 0, of(40, 9, 10));
+            Due.write(x, 0, Due.of(40, 9, 10));
             Due.thrown("the one", Due.STATE, () -> x.compare(0, 0, 1));
             Due.thrown("the other", Due.STATE, () -> x.compare(0, 1, 0));
             Due.thrown("both", Due.STATE, () -> x.compare(1, 0, 0));
@@ -259,68 +246,68 @@ final class SearchEdges {
 
     private static void finds() {
         Said.so("27", "the first place from one on at which a cluster begins", () -> {
-            find(1, 0, row(7), 7, 7);
-            find(102, 1, row(7), 7, 7);
-            find(N, 2, row(7), 7, 7);
-            find(2, 0, row(7), 7, 20, 8);
-            find(N, 1, row(7), 7, 20, 8);
-            find(304, 1, row(7), 7, 20, 8, 7);
-            find(N, 0, row(7), 30, 7);
-            find(2, 0, row(30, 7), 30, 7);
-            find(N, 1, row(30, 7), 30, 7);
-            find(204, 0, row(20, 7), 8, 20, 7, 20);
-            find(N, 0, row(8), 7, 7);
+            find(1, 0, Due.row(7), 7, 7);
+            find(102, 1, Due.row(7), 7, 7);
+            find(N, 2, Due.row(7), 7, 7);
+            find(2, 0, Due.row(7), 7, 20, 8);
+            find(N, 1, Due.row(7), 7, 20, 8);
+            find(304, 1, Due.row(7), 7, 20, 8, 7);
+            find(N, 0, Due.row(7), 30, 7);
+            find(2, 0, Due.row(30, 7), 30, 7);
+            find(N, 1, Due.row(30, 7), 30, 7);
+            find(204, 0, Due.row(20, 7), 8, 20, 7, 20);
+            find(N, 0, Due.row(8), 7, 7);
         });
         Said.so("27", "and the least end of a cluster behind it, so that what is between, by itself, is alike, folded", () -> {
-            find(1, 0, row(7), 7, 21, 21);
-            find(2, 0, row(7), 7, 20, 21);
-            find(2, 0, row(7), 21, 7, 21);
-            find(102, 1, row(7), 21, 7, 21);
-            find(N, 0, row(30), 30, 7);
-            find(2, 0, row(1), 4, 5);
-            find(1, 0, row(4, 5), 1);
-            find(N, 0, row(2), 1, 1);
-            find(N, 0, row(3), 1, 1);
-            find(102, 0, row(4), 1, 2);
-            find(205, 0, row(7, 8), 7, 9, 7, 21, 8, 21);
+            find(1, 0, Due.row(7), 7, 21, 21);
+            find(2, 0, Due.row(7), 7, 20, 21);
+            find(2, 0, Due.row(7), 21, 7, 21);
+            find(102, 1, Due.row(7), 21, 7, 21);
+            find(N, 0, Due.row(30), 30, 7);
+            find(2, 0, Due.row(1), 4, 5);
+            find(1, 0, Due.row(4, 5), 1);
+            find(N, 0, Due.row(2), 1, 1);
+            find(N, 0, Due.row(3), 1, 1);
+            find(102, 0, Due.row(4), 1, 2);
+            find(205, 0, Due.row(7, 8), 7, 9, 7, 21, 8, 21);
         });
         Said.so("27", "a text that is empty, folded, is not found", () -> {
-            find(N, 0, row());
-            find(N, 0, row(), 7);
-            find(N, 0, row(20), 20);
-            find(N, 0, row(21, 21), 7, 21, 21);
-            find(N, 0, row(7));
-            find(N, 40, row(), of(40, 7));
+            find(N, 0, Due.row());
+            find(N, 0, Due.row(), 7);
+            find(N, 0, Due.row(20), 20);
+            find(N, 0, Due.row(21, 21), 7, 21, 21);
+            find(N, 0, Due.row(7));
+            find(N, 40, Due.row(), Due.of(40, 7));
         });
     }
 
     private static void findsPlaces() {
         Said.so("27", "from: 0 to 40", () -> {
-            int[] full = of(40, 6, 7);
-            find(3940, 0, row(7), full);
-            find(3940, 39, row(7), full);
-            find(N, 40, row(7), full);
-            find(N, 40, row(7), 7);
-            find(N, 1, row(7), 7);
+            int[] full = Due.of(40, 6, 7);
+            find(3940, 0, Due.row(7), full);
+            find(3940, 39, Due.row(7), full);
+            find(N, 40, Due.row(7), full);
+            find(N, 40, Due.row(7), 7);
+            find(N, 1, Due.row(7), 7);
             LetterTables x = foldable();
             Due.thrown("41", Due.ARGUMENT, () -> x.find(0, 1, 41));
             Due.thrown("-1", Due.ARGUMENT, () -> x.find(0, 1, -1));
             Due.thrown("no slot, 41", Due.INDEX, () -> x.find(0, 6, 41));
         });
         Said.so("27", "Returns 100 times the place, and the end", () -> {
-            find(1, 0, row(6), 6);
-            find(40, 0, of(40, 6), of(40, 6));
-            int[] text = of(40, 6);
+            find(1, 0, Due.row(6), 6);
+            find(40, 0, Due.of(40, 6), Due.of(40, 6));
+            int[] text = Due.of(40, 6);
             text[0] = 7;
-            find(140, 0, of(39, 6), text);
-            find(1, 0, row(7), text);
-            find(3940, 39, row(6), text);
+            find(140, 0, Due.of(39, 6), text);
+            find(1, 0, Due.row(7), text);
+            find(3940, 39, Due.row(6), text);
         });
         Said.so("27", "NONE if there are none.", () -> {
-            find(N, 0, row(7), 8);
-            find(N, 0, row(7, 7), 7);
-            find(N, 0, row(7, 8), 7, 9, 8);
-            find(N, 0, of(40, 6), of(39, 6));
+            find(N, 0, Due.row(7), 8);
+            find(N, 0, Due.row(7, 7), 7);
+            find(N, 0, Due.row(7, 8), 7, 9, 8);
+            find(N, 0, Due.of(40, 6), Due.of(39, 6));
         });
     }
 
@@ -329,7 +316,7 @@ final class SearchEdges {
             LetterTables x = foldable();
             x.split(50, 49, 49);
             x.split(51, 50, 49);
-            Due.write(x, 0, of(40, 50, 51));
+            Due.write(x, 0, Due.of(40, 50, 51));
             Due.write(x, 1, 49);
             Due.thrown("the text", Due.STATE, () -> x.find(0, 1, 0));
             Due.thrown("the wanted one", Due.STATE, () -> x.find(1, 0, 0));
@@ -337,7 +324,7 @@ final class SearchEdges {
             Due.thrown("the wanted one, not even in nothing", Due.STATE, () -> x.find(2, 0, 0));
             Due.thrown("from out of range ahead of that", Due.ARGUMENT, () -> x.find(0, 1, 41));
             Due.thrown("no slot ahead of that", Due.INDEX, () -> x.find(6, 0, 0));
-            Due.write(x, 0, of(40, 50));
+            Due.write(x, 0, Due.of(40, 50));
             Due.is("80 can be looked at", N, () -> x.find(0, 1, 0));
             Due.is("80 in 80", 40, () -> x.find(0, 0, 0));
         });
@@ -443,7 +430,7 @@ final class SearchEdges {
         Said.so("Patterns", "all letters, those of the kind LETTER, MARK, BLANK, DIGIT or SEAMLESS", () -> {
             String signs = "LMBDS";
             int[] kinds = {1, 2, 3, 4, 6};
-            for (int letter : row(0, 1, 2, 3, 4, 5, 6, 7, 95)) {
+            for (int letter : Due.row(0, 1, 2, 3, 4, 5, 6, 7, 95)) {
                 match(".", 1, 0, letter);
                 for (int i = 0; i < kinds.length; i++) {
                     match(signs.substring(i, i + 1), letter == kinds[i] ? 1 : N, 0, letter);
@@ -451,10 +438,10 @@ final class SearchEdges {
             }
         });
         Said.so("Patterns", "those that are in the capital form of some other one", () -> {
-            for (int letter : row(51, 52, 55, 0, 94)) {
+            for (int letter : Due.row(51, 52, 55, 0, 94)) {
                 match("C", 1, 0, letter);
             }
-            for (int letter : row(50, 53, 54, 95, 1, 56)) {
+            for (int letter : Due.row(50, 53, 54, 95, 1, 56)) {
                 match("C", N, 0, letter);
             }
             LetterTables x = patterned("C");
@@ -495,7 +482,7 @@ final class SearchEdges {
             match("<!LM", N, 1, 1, 2);
             match("L<LM", 2, 0, 1, 2);
             match("L<MM", N, 0, 1, 2);
-            match("<#95L", 40, 39, of(40, 95, 1));
+            match("<#95L", 40, 39, Due.of(40, 95, 1));
             match("<LM", N, 0, 2);
             match("<LM?", 0, 0, 2);
             match("<.L*", 0, 0, 1, 1);
@@ -519,8 +506,8 @@ final class SearchEdges {
             match("L*", 0, 0);
             match("L*", 0, 0, 2, 1);
             match("L*", 1, 0, 1, 2);
-            match("L*", 40, 0, of(40, 1));
-            match("L*", 39, 0, of(40, 1, 2));
+            match("L*", 40, 0, Due.of(40, 1));
+            match("L*", 39, 0, Due.of(40, 1, 2));
             match("L?", 0, 0);
             match("L?", 0, 0, 2);
             match("L?", 1, 0, 1);
@@ -528,12 +515,12 @@ final class SearchEdges {
             match("L", N, 0);
             match("L", N, 0, 2);
             match("L", 1, 0, 1, 1);
-            match("L?L?L?L?L?L?L?L?", 8, 0, of(9, 1));
-            match("L?L?L?L?L?L?L?L?", 3, 0, of(3, 1));
+            match("L?L?L?L?L?L?L?L?", 8, 0, Due.of(9, 1));
+            match("L?L?L?L?L?L?L?L?", 3, 0, Due.of(3, 1));
             match("L?M*", 0, 0, 3);
             match("L?M*", 2, 0, 2, 2);
             match("L?M*L", 4, 0, 1, 2, 2, 1);
-            match("L*L*L*L*L*L*L*L*", 40, 0, of(40, 1));
+            match("L*L*L*L*L*L*L*L*", 40, 0, Due.of(40, 1));
         });
     }
 
@@ -544,7 +531,7 @@ final class SearchEdges {
             match("L?L", 1, 0, 1, 2);
             match("L?L", 2, 0, 1, 1);
             match(".*M", 4, 0, 2, 1, 1, 2, 1);
-            match(".*M", 40, 0, of(40, 2));
+            match(".*M", 40, 0, Due.of(40, 2));
             match(".*M", 1, 0, 2, 1, 1);
             match("L?M?L?M?", 3, 0, 1, 2, 2);
             match("L?.?M?M?M?", 4, 0, 2, 2, 2, 2);
@@ -554,18 +541,18 @@ final class SearchEdges {
             match("", 0, 0, 1);
             match("", 1, 1, 1);
             match("L", 2, 1, 1, 1);
-            match(".*", 40, 0, of(40, 0));
-            match(".*", 40, 39, of(40, 0));
-            match(".*", 40, 40, of(40, 0));
-            match("........", 40, 32, of(40, 0));
-            match("........", N, 33, of(40, 0));
+            match(".*", 40, 0, Due.of(40, 0));
+            match(".*", 40, 39, Due.of(40, 0));
+            match(".*", 40, 40, Due.of(40, 0));
+            match("........", 40, 32, Due.of(40, 0));
+            match("........", N, 33, Due.of(40, 0));
         });
         Said.so("29", "NONE if it does not fit.", () -> {
             match("L", N, 0);
             match("L", N, 1, 1);
             match("LM", N, 0, 1);
             match("LM", N, 0, 1, 1);
-            match("L*M", N, 0, of(40, 1));
+            match("L*M", N, 0, Due.of(40, 1));
         });
         Said.so("29", "Throws IllegalStateException if there is no pattern", () -> {
             LetterTables x = new LetterTables();

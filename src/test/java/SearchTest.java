@@ -101,37 +101,33 @@ public final class SearchTest {
         Due.is(what + ", itself", 0, () -> x.compare(language, 2, 2));
     }
 
-    private static int[] row(int... letters) {
-        return letters;
-    }
-
     private static void compares() {
         LetterTables x = weighed();
-        compare(x, 0, 0, row(), row());
-        compare(x, 0, 0, row(), row(50));
-        compare(x, 0, -1, row(), row(20));
-        compare(x, 0, -1, row(20), row(1));
-        compare(x, 0, -1, row(1), row(2));
-        compare(x, 1, 1, row(1), row(2));
-        compare(x, 0, -1, row(1), row(1, 1));
-        compare(x, 0, -1, row(1, 20), row(1, 1));
-        compare(x, 0, -1, row(1), row(1, 20));
-        compare(x, 0, -1, row(1, 20), row(1, 21));
-        compare(x, 0, 0, row(40), row(1, 20));
-        compare(x, 0, 0, row(40, 50), row(51, 1, 20));
-        compare(x, 0, 1, row(1, 2), row(1, 1));
-        compare(x, 0, -1, row(1, 2), row(2));
-        compare(x, 0, 1, row(3, 1), row(2, 3));
+        compare(x, 0, 0, Due.row(), Due.row());
+        compare(x, 0, 0, Due.row(), Due.row(50));
+        compare(x, 0, -1, Due.row(), Due.row(20));
+        compare(x, 0, -1, Due.row(20), Due.row(1));
+        compare(x, 0, -1, Due.row(1), Due.row(2));
+        compare(x, 1, 1, Due.row(1), Due.row(2));
+        compare(x, 0, -1, Due.row(1), Due.row(1, 1));
+        compare(x, 0, -1, Due.row(1, 20), Due.row(1, 1));
+        compare(x, 0, -1, Due.row(1), Due.row(1, 20));
+        compare(x, 0, -1, Due.row(1, 20), Due.row(1, 21));
+        compare(x, 0, 0, Due.row(40), Due.row(1, 20));
+        compare(x, 0, 0, Due.row(40, 50), Due.row(51, 1, 20));
+        compare(x, 0, 1, Due.row(1, 2), Due.row(1, 1));
+        compare(x, 0, -1, Due.row(1, 2), Due.row(2));
+        compare(x, 0, 1, Due.row(3, 1), Due.row(2, 3));
         // The third ones alone, and one row of them that another one begins with.
-        compare(x, 0, -1, row(1), row(41));
-        compare(x, 0, 0, row(1, 20, 21), row(41));
-        compare(x, 0, -1, row(1, 20), row(1, 20, 20));
+        compare(x, 0, -1, Due.row(1), Due.row(41));
+        compare(x, 0, 0, Due.row(1, 20, 21), Due.row(41));
+        compare(x, 0, -1, Due.row(1, 20), Due.row(1, 20, 20));
         x.weigh(0, 4, 10, 0, 2);
-        compare(x, 0, -1, row(1, 3), row(4, 3));
-        compare(x, 0, 1, row(4), row(1));
+        compare(x, 0, -1, Due.row(1, 3), Due.row(4, 3));
+        compare(x, 0, 1, Due.row(4), Due.row(1));
         x.weigh(0, 6, 10, 3, 0);
-        compare(x, 0, -1, row(4), row(6));
-        compare(x, 0, 0, row(50, 51, 52), row(53));
+        compare(x, 0, -1, Due.row(4), Due.row(6));
+        compare(x, 0, 0, Due.row(50, 51, 52), Due.row(53));
     }
 
     private static LetterTables foldable() {
@@ -154,54 +150,54 @@ public final class SearchTest {
 
     private static void finds() {
         LetterTables x = foldable();
-        find(x, N, 0, row());
-        find(x, N, 0, row(), 7, 7);
-        find(x, N, 0, row(20), 7, 20);
-        find(x, N, 0, row(7));
-        find(x, 1, 0, row(7), 7);
-        find(x, 102, 0, row(7), 8, 7, 7);
-        find(x, 102, 1, row(7), 7, 7, 7);
-        find(x, 203, 2, row(7), 7, 7, 7);
-        find(x, N, 3, row(7), 7, 7, 7);
-        find(x, N, 40, row(7), 7, 7, 7);
-        find(x, 103, 0, row(7, 8), 7, 7, 8, 8);
-        find(x, N, 0, row(7, 8), 7, 9, 8, 7);
-        find(x, N, 0, row(7, 8, 9), 7, 8);
+        find(x, N, 0, Due.row());
+        find(x, N, 0, Due.row(), 7, 7);
+        find(x, N, 0, Due.row(20), 7, 20);
+        find(x, N, 0, Due.row(7));
+        find(x, 1, 0, Due.row(7), 7);
+        find(x, 102, 0, Due.row(7), 8, 7, 7);
+        find(x, 102, 1, Due.row(7), 7, 7, 7);
+        find(x, 203, 2, Due.row(7), 7, 7, 7);
+        find(x, N, 3, Due.row(7), 7, 7, 7);
+        find(x, N, 40, Due.row(7), 7, 7, 7);
+        find(x, 103, 0, Due.row(7, 8), 7, 7, 8, 8);
+        find(x, N, 0, Due.row(7, 8), 7, 9, 8, 7);
+        find(x, N, 0, Due.row(7, 8, 9), 7, 8);
         // Folded: 1 is like 2 3, and like 4 5; a mark goes with its letter.
-        find(x, 2, 0, row(1), 4, 5);
-        find(x, 1, 0, row(4, 5), 1);
-        find(x, N, 0, row(2), 1);
-        find(x, 102, 0, row(2), 1, 4);
-        find(x, 2, 0, row(2, 20), 4, 20);
-        find(x, 3, 0, row(2), 4, 20, 20);
-        find(x, 204, 1, row(2), 4, 20, 4, 20);
-        find(x, 204, 0, row(7), 8, 20, 7, 20);
+        find(x, 2, 0, Due.row(1), 4, 5);
+        find(x, 1, 0, Due.row(4, 5), 1);
+        find(x, N, 0, Due.row(2), 1);
+        find(x, 102, 0, Due.row(2), 1, 4);
+        find(x, 2, 0, Due.row(2, 20), 4, 20);
+        find(x, 3, 0, Due.row(2), 4, 20, 20);
+        find(x, 204, 1, Due.row(2), 4, 20, 4, 20);
+        find(x, 204, 0, Due.row(7), 8, 20, 7, 20);
     }
 
     private static void findsOn() {
         LetterTables x = foldable();
         // What splits is split behind the capitals: 40 stays 1.
-        find(x, N, 0, row(1), 40);
-        find(x, 1, 0, row(40), 40);
-        find(x, 102, 0, row(40, 20), 1, 40);
+        find(x, N, 0, Due.row(1), 40);
+        find(x, 1, 0, Due.row(40), 40);
+        find(x, 102, 0, Due.row(40, 20), 1, 40);
         // Places at which a cluster begins, ends of clusters.
-        find(x, N, 0, row(8), 30, 8);
-        find(x, 2, 0, row(30, 8), 30, 8);
-        find(x, N, 0, row(30), 30, 8);
-        find(x, 204, 0, row(30, 8), 8, 8, 30, 8);
+        find(x, N, 0, Due.row(8), 30, 8);
+        find(x, 2, 0, Due.row(30, 8), 30, 8);
+        find(x, N, 0, Due.row(30), 30, 8);
+        find(x, 204, 0, Due.row(30, 8), 8, 8, 30, 8);
         // A cluster of which nothing is left: the first place, the least end.
-        find(x, 2, 0, row(7), 21, 7, 21);
-        find(x, 102, 1, row(7), 21, 7, 21);
-        find(x, 205, 0, row(7, 8), 7, 9, 7, 21, 8, 21);
+        find(x, 2, 0, Due.row(7), 21, 7, 21);
+        find(x, 102, 1, Due.row(7), 21, 7, 21);
+        find(x, 205, 0, Due.row(7, 8), 7, 9, 7, 21, 8, 21);
     }
 
     private static void findsFar() {
         LetterTables x = foldable();
         int[] full = new int[40];
         full[39] = 7;
-        find(x, 3940, 0, row(7), full);
-        find(x, 3940, 39, row(7), full);
-        find(x, N, 40, row(7), full);
+        find(x, 3940, 0, Due.row(7), full);
+        find(x, 3940, 39, Due.row(7), full);
+        find(x, N, 40, Due.row(7), full);
         find(x, 40, 0, full, full);
     }
 
