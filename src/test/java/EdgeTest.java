@@ -9,6 +9,7 @@ public final class EdgeTest {
         BreakEdges.all();
         SearchEdges.all();
         OutEdges.all();
+        GrammarEdges.all();
         Said.covers();
         Due.end();
     }
